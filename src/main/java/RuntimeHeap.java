@@ -243,7 +243,6 @@ public final class RuntimeHeap {
     }
 
     public boolean refersTo(int reference, int slot) throws IndexOutOfBoundsException, IllegalArgumentException {
-        needSlot(reference);
         needSlot(slot);
         int referent = things.referentOf(needReference(reference, PHANTOM));
         return referent != NONE && referent == roots.heldBy(slot);
@@ -302,7 +301,6 @@ public final class RuntimeHeap {
 
     public int intern(int to, int text) throws IndexOutOfBoundsException, IllegalArgumentException {
         needSlot(to);
-        needSlot(text);
         if (formOf(text) != TEXT) {
             throw new IllegalArgumentException("the slot holds no TEXT");
         }
@@ -491,7 +489,8 @@ public final class RuntimeHeap {
     public int entriesOf(int slot) throws IndexOutOfBoundsException {
         needSlot(slot);
         int cell = roots.heldBy(slot);
-        return cell == NONE || things.forms[cell] != TABLE ? NONE : things.countEntries(cell);
+        boolean isTable = cell != NONE && things.forms[cell] == TABLE;
+        return isTable ? things.countEntries(cell) : NONE;
     }
 
     // ---- the whole memory, asked
@@ -591,7 +590,7 @@ public final class RuntimeHeap {
     }
 
     public boolean sameShape(int one, int other) throws IndexOutOfBoundsException, IllegalArgumentException {
-        needSlot(one);
+        // Both have to be slots ahead of either having to hold something.
         needSlot(other);
         return survey.areAlike(needHeld(one), needHeld(other));
     }
@@ -839,7 +838,7 @@ public final class RuntimeHeap {
             parents[kind] = parent;
             references[kind] = referencesWith(parent, ownReferences);
             numbers[kind] = numbersWith(parent, ownNumbers);
-            finals[kind] = isSaidFinal || has(parent) && finals[parent];
+            finals[kind] = isSaidFinal || (has(parent) && finals[parent]);
             count++;
             return kind;
         }
@@ -1031,9 +1030,8 @@ public final class RuntimeHeap {
             old[cell] = isOld;
             finalized[cell] = false;
             interned[cell] = false;
-            queued[cell] = false;
             for (int i = 0; i < size; i++) {
-                data[used + i] = form == TEXT || form == PLAIN && i >= length ? 0 : NONE;
+                data[used + i] = form == TEXT || (form == PLAIN && i >= length) ? 0 : NONE;
             }
             used += size;
             addWords(isOld, words[cell]);
@@ -1218,10 +1216,11 @@ public final class RuntimeHeap {
 
         /** Adds to a set all that is reached from it, by the data of now or by those of the PICTURE. */
         void spread(CellSet set, int[] data, boolean isPressed) {
-            int before = NONE;
+            boolean isOpen = true;
             // A key may be reached behind its TABLE: so all is looked at again until nothing is added.
-            for (int round = 0; round <= CELLS && set.size > before; round++) {
-                before = set.size;
+            for (int round = 0; isOpen && round <= CELLS; round++) {
+                int before = set.size;
+                boolean hasTable = false;
                 for (int at = 0; at < set.size && at < CELLS; at++) {
                     int cell = set.row[at];
                     int start = things.starts[cell];
@@ -1234,12 +1233,14 @@ public final class RuntimeHeap {
                             set.include(data[start + 2 * i + 1]);
                         }
                     }
+                    hasTable = hasTable || isTable;
                 }
+                isOpen = hasTable && set.size > before;
             }
         }
 
         private boolean isHolding(int form, boolean isPressed) {
-            return form <= ROW || form == SOFT && !isPressed;
+            return form <= ROW || (form == SOFT && !isPressed);
         }
 
         /** Adds to a set all to which one comes by fields and places, up to a form, and counts the steps. */

@@ -201,6 +201,10 @@ final class AskedTest {
         Check.same("as long as it is PRESENT", heap.interned(), 2);
         heap.collectYoung();
         Check.same("interned", heap.interned(), 1);
+        RuntimeHeap other = new RuntimeHeap();
+        other.newText(0, 0);
+        other.intern(0, 0);
+        Check.same("the only object", other.interned(), 1);
     }
 
     static void promise67YoungCollections() {

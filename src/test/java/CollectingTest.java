@@ -53,19 +53,38 @@ final class CollectingTest {
         for (int i = 0; i < 7; i++) {
             heap.newRow(i, 40);
         }
-        heap.newRow(7, 24);
+        heap.newRow(7, 5);
+        heap.toGlobal(0, 7);
+        heap.newRow(7, 17);
         Check.same("words", heap.youngWords() + heap.oldWords(), 320);
         heap.clear(0);
         Check.same("320 words: a young one", heap.collectYoung(), 0);
         Check.same("young collections", heap.youngCollections(), 1);
         heap.newRow(0, 0);
         heap.newSoft(0, 0, false);
-        Check.same("more: a full one", heap.collectYoung(), 1);
+        heap.newRow(0, 0);
+        Check.same("more: a full one", heap.collectYoung(), 3);
         Check.same("young collections", heap.youngCollections(), 1);
         Check.same("full collections", heap.fullCollections(), 1);
-        Check.no("not PRESSED", heap.isCleared(0));
         Check.yes("all that fit are OLD", heap.isOld(7));
         Check.same("the age stays", heap.ageOf(7), 1);
+    }
+
+    static void promise36FullInsteadOfYoungAt321() {
+        RuntimeHeap heap = new RuntimeHeap();
+        for (int i = 0; i < 7; i++) {
+            heap.newRow(i, 40);
+        }
+        heap.newRow(7, 0);
+        heap.newSoft(7, 7, false);
+        heap.toGlobal(0, 7);
+        heap.newRow(7, 20);
+        Check.same("words", heap.youngWords() + heap.oldWords(), 321);
+        Check.same("collectYoung", heap.collectYoung(), 0);
+        Check.same("young collections", heap.youngCollections(), 0);
+        Check.same("full collections", heap.fullCollections(), 1);
+        heap.fromGlobal(7, 0);
+        Check.no("not PRESSED", heap.isCleared(7));
     }
 
     static void promise36FinalOnes() {
@@ -264,7 +283,8 @@ final class CollectingTest {
         Check.yes("all become OLD", heap.isOld(0));
         Check.badState(heap, "marking is off", () -> heap.step(1));
         heap.beginMarking();
-        Check.same("all that are left", heap.step(50), 4);
+        heap.step(3);
+        Check.same("all that are left", heap.step(50), 1);
         Check.no("none is left", heap.isMarking());
     }
 

@@ -46,6 +46,20 @@ final class MakingTest {
         Check.no("old", heap.isOld(0));
     }
 
+    static void promise9FreshInAllRespects() {
+        RuntimeHeap heap = new RuntimeHeap();
+        heap.setTenure(4);
+        heap.newText(0, 3);
+        heap.intern(0, 0);
+        heap.collectYoung();
+        heap.clear(0);
+        heap.collectYoung();
+        heap.newText(0, 3);
+        Check.same("age", heap.ageOf(0), 0);
+        Check.no("INTERNED", heap.isInterned(0));
+        Check.same("interned", heap.interned(), 0);
+    }
+
     static void promise10NewRow() {
         RuntimeHeap heap = new RuntimeHeap();
         Check.same("newRow(40)", heap.newRow(0, 40), 0);
@@ -83,6 +97,62 @@ final class MakingTest {
         Check.same("full collections", heap.fullCollections(), 0);
         Check.yes("age 2 is TENURE", heap.isOld(0));
         Check.no("age 1 is not", heap.isOld(1));
+    }
+
+    static void promise10ExactlyAsMuchRoom() {
+        RuntimeHeap heap = new RuntimeHeap();
+        heap.newRow(0, 30);
+        heap.newRow(1, 30);
+        heap.newRow(2, 29);
+        Check.same("young words", heap.youngWords(), 95);
+        heap.newRow(3, 0);
+        Check.same("97 are too many", heap.youngCollections(), 1);
+        RuntimeHeap old = new RuntimeHeap();
+        for (int i = 0; i < 7; i++) {
+            old.newRow(i, 38);
+        }
+        Check.same("exactly 320", old.newRow(7, 38), 7);
+        Check.same("without a collection", old.fullCollections() + old.youngCollections(), 0);
+        Check.same("old words", old.oldWords(), 320);
+        old.newRow(7, 39);
+        Check.same("321 are too many", old.youngCollections(), 1);
+    }
+
+    static void promise10AsManyObjectsAsThereCanBe() {
+        RuntimeHeap heap = new RuntimeHeap();
+        heap.defineKind(-1, 0, 0, false);
+        heap.newRow(0, 3);
+        int[] lengths = {120, 120, 69};
+        for (int i = 0; i < 3; i++) {
+            heap.newText(1, lengths[i]);
+            heap.store(0, i, 1);
+        }
+        heap.writeImage(0);
+        // An IMAGE of nothing but 0 behind its first number: PLAIN objects without fields, 2 words each.
+        for (int place = 0; place < heap.imageLength(); place++) {
+            if (heap.imageAt(place) != 0) {
+                heap.setImage(place, 0);
+            }
+        }
+        heap.setImage(0, 160);
+        heap.clear(0);
+        heap.clear(1);
+        heap.collectAll(false);
+        Check.same("160 OLD ones", heap.readImage(0), 4);
+        Check.same("old words", heap.oldWords(), 320);
+        for (int i = 0; i < 48; i++) {
+            heap.newRow(1, 0);
+        }
+        Check.same("48 YOUNG ones", heap.objects(), 208);
+        Check.same("the last one", heap.numberOf(1), 4 + 208 - 1);
+        Check.same("young words", heap.youngWords(), 96);
+        Check.same("flaws", heap.flaws(), 0);
+        Check.same("heaviest", heap.heaviest(), 4);
+        Check.same("wouldRemove", heap.wouldRemove(false), 206);
+        Check.same("the mean", heap.meanWords(), 2.0);
+        Check.same("one more", heap.newRow(2, 0), 4 + 208);
+        Check.same("a full one was done", heap.fullCollections(), 2);
+        Check.same("objects", heap.objects(), 3);
     }
 
     static void promise10NoRoom() {
@@ -161,6 +231,28 @@ final class MakingTest {
         Check.noIndex(heap, "slot -1", () -> heap.newText(-1, 121));
         Check.badArgument(heap, "length 121", () -> heap.newText(0, 121));
         Check.badArgument(heap, "length -1", () -> heap.newText(0, -1));
+    }
+
+    static void promise11AsManyBytesAsThereCanBe() {
+        RuntimeHeap heap = new RuntimeHeap();
+        heap.newRow(0, 9);
+        for (int i = 0; i < 9; i++) {
+            heap.newText(1, 120);
+            heap.setByte(1, 119, i);
+            heap.store(0, i, 1);
+            heap.collectAll(false);
+        }
+        Check.same("words", heap.oldWords(), 11 + 9 * 32);
+        for (int i = 1; i <= 3; i++) {
+            heap.newText(i, 120);
+            heap.setByte(i, 0, 100 + i);
+        }
+        Check.same("words", heap.youngWords(), 96);
+        for (int i = 0; i < 9; i++) {
+            heap.load(4, 0, i);
+            Check.same("the last byte of each", heap.getByte(4, 119), i);
+        }
+        Check.same("the first byte of a YOUNG one", heap.getByte(2, 0), 102);
     }
 
     static void promise12NewWeak() {
@@ -283,6 +375,29 @@ final class MakingTest {
         Check.badArgument(heap, "place 3", () -> heap.load(5, 1, 3));
         Check.badArgument(heap, "place -1", () -> heap.load(5, 1, -1));
         Check.same("over the holder", heap.load(0, 0, 1), 2);
+    }
+
+    static void promise17WhatIsHeldStaysWhenOthersGo() {
+        RuntimeHeap heap = withHolders();
+        heap.newRow(5, 2);
+        heap.newRow(6, 2);
+        heap.store(5, 0, 6);
+        heap.store(6, 1, 5);
+        heap.setNumber(0, 2, 44);
+        heap.setByte(2, 3, 55);
+        heap.clear(1);
+        heap.clear(3);
+        heap.collectYoung();
+        heap.newRow(1, 6);
+        for (int i = 0; i < 6; i++) {
+            heap.store(1, i, 1);
+        }
+        Check.same("a place", heap.load(7, 5, 0), 6);
+        Check.same("a place", heap.load(7, 5, 1), -1);
+        Check.same("a place", heap.load(7, 6, 1), 5);
+        Check.same("a number", heap.getNumber(0, 2), 44);
+        Check.same("a byte", heap.getByte(2, 3), 55);
+        Check.yes("a referent", heap.refersTo(4, 0));
     }
 
     static void promise17Store() {

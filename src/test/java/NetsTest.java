@@ -32,11 +32,13 @@ final class NetsTest {
         Check.same("itself", heap.intern(5, 1), 1);
         Check.same("more bytes", heap.intern(5, 2), 2);
         Check.same("other bytes", heap.intern(5, 3), 3);
-        Check.same("interned", heap.interned(), 3);
+        makeText(heap, 6, 6, 9);
+        Check.same("another first byte", heap.intern(6, 6), 4);
+        Check.same("interned", heap.interned(), 4);
         heap.newText(6, 0);
-        Check.same("no bytes", heap.intern(6, 6), 4);
+        Check.same("no bytes", heap.intern(6, 6), 5);
         heap.newText(6, 0);
-        Check.same("no bytes again", heap.intern(6, 6), 4);
+        Check.same("no bytes again", heap.intern(6, 6), 5);
         heap.newRow(7, 2);
         Check.noIndex(heap, "to", () -> heap.intern(8, 7));
         Check.noIndex(heap, "text", () -> heap.intern(7, -1));
@@ -158,11 +160,39 @@ final class NetsTest {
         heap.clear(1);
         Check.same("old words", heap.oldWords(), 242);
         int made = heap.made();
-        Check.same("no room", heap.deepCopy(2, 0), -1);
-        Check.same("the slot stays", heap.numberOf(2), -1);
+        Check.same("no room", heap.deepCopy(0, 0), -1);
+        Check.same("the slot stays", heap.numberOf(0), 0);
         Check.same("made", heap.made(), made);
         Check.same("what was done stays done", heap.youngCollections(), 1);
         Check.same("what was done stays done", heap.fullCollections(), 2);
+    }
+
+    static void promise31InternedTextsNeedNoRoom() {
+        RuntimeHeap heap = new RuntimeHeap();
+        heap.newRow(0, 30);
+        heap.newText(1, 9);
+        heap.intern(1, 1);
+        heap.store(0, 0, 1);
+        heap.deepCopy(2, 0);
+        Check.no("32 words without it: YOUNG", heap.isOld(2));
+        Check.same("the same TEXT", heap.load(3, 2, 0), 1);
+        Check.same("a ROW has no kind", heap.kindOf(2), -1);
+    }
+
+    static void promise31CopyIntoTheFirstPlaceThere() {
+        RuntimeHeap heap = new RuntimeHeap();
+        heap.newRow(0, 0);
+        heap.newRow(1, 1);
+        heap.clear(0);
+        heap.collectYoung();
+        heap.store(1, 0, 1);
+        for (int i = 0; i < 60; i++) {
+            int copy = heap.deepCopy(2, 1);
+            Check.same("a copy holds itself", heap.load(3, 2, 0), copy);
+            heap.clear(2);
+            heap.clear(3);
+            heap.collectAll(false);
+        }
     }
 
     static void promise31NeitherFinalizedNorNew() {
@@ -221,6 +251,20 @@ final class NetsTest {
         Check.same("401 numbers", heap.writeImage(0), -1);
         Check.same("it stays as it is", heap.imageLength(), 400);
         Check.same("its last text", heap.imageAt(374), 25);
+        for (int length : new int[] {24, 26, 120, 121}) {
+            heap.setImage(374, length);
+            Check.same("malformed at its end", heap.readImage(1), -2);
+        }
+        heap.setImage(374, 24);
+        heap.setImage(0, 6);
+        heap.setImage(399, 1);
+        Check.same("half an object at its end", heap.readImage(1), -2);
+        heap.setImage(374, 25);
+        heap.setImage(399, 0);
+        Check.same("no object at its end", heap.readImage(1), -2);
+        heap.setImage(0, 5);
+        heap.clear(0);
+        Check.same("well formed again", heap.readImage(1), heap.made() - 5);
     }
 
     static void promise33SetImage() {
@@ -376,6 +420,63 @@ final class NetsTest {
         Check.same("any number field, any reference up to n", heap.readImage(7), made);
         Check.same("the number field", heap.getNumber(7, 0), Integer.MIN_VALUE);
         Check.same("what none holds is made as well", heap.made(), made + 3);
+    }
+
+    static void promise34TooLongLengths() {
+        RuntimeHeap heap = new RuntimeHeap();
+        heap.newText(0, 41);
+        heap.writeImage(0);
+        heap.setImage(1, 1);
+        Check.same("a ROW of 41 places", heap.readImage(7), -2);
+        heap.newText(0, 40);
+        heap.writeImage(0);
+        heap.setImage(1, 1);
+        Check.same("a ROW of 40 places", heap.readImage(7), 2);
+        Check.same("a ROW has no kind", heap.kindOf(7), -1);
+        heap.clear(7);
+        heap.newRow(0, 2);
+        heap.newText(1, 120);
+        heap.newText(2, 5);
+        heap.store(0, 0, 1);
+        heap.store(0, 1, 2);
+        heap.writeImage(0);
+        heap.setImage(0, 2);
+        heap.setImage(4, 0);
+        heap.setImage(6, 127);
+        Check.same("a TEXT of 127 bytes", heap.readImage(7), -2);
+        heap.setImage(0, 1);
+        heap.setImage(1, 2);
+        heap.setImage(2, 131);
+        Check.same("a TEXT of 131 bytes", heap.readImage(7), -2);
+        heap.setImage(1, 3);
+        Check.same("an INTERNED one", heap.readImage(7), -2);
+    }
+
+    static void promise34IntoAnEmptyMemory() {
+        RuntimeHeap heap = new RuntimeHeap();
+        heap.newRow(0, 2);
+        makeText(heap, 1, 8);
+        heap.store(0, 1, 1);
+        heap.store(0, 0, 0);
+        heap.writeImage(0);
+        heap.clear(0);
+        heap.clear(1);
+        heap.collectAll(false);
+        Check.same("readImage", heap.readImage(2), 2);
+        Check.same("itself", heap.load(3, 2, 0), 2);
+        Check.same("the TEXT", heap.load(3, 2, 1), 3);
+        Check.same("its byte", heap.getByte(3, 0), 8);
+        Check.no("not INTERNED", heap.isInterned(3));
+        heap.newText(4, 1);
+        heap.setByte(4, 0, 8);
+        heap.writeImage(4);
+        heap.setImage(1, 3);
+        heap.clear(2);
+        heap.clear(3);
+        heap.clear(4);
+        heap.collectAll(false);
+        heap.readImage(0);
+        Check.yes("INTERNED", heap.isInterned(0));
     }
 
     static void promise34LongestLengths() {

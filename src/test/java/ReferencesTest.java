@@ -74,6 +74,33 @@ final class ReferencesTest {
         Check.same("objects", heap.objects(), 5);
     }
 
+    static void promise22ReadHoldsThroughASoft() {
+        RuntimeHeap heap = new RuntimeHeap();
+        heap.newRow(0, 1);
+        heap.newRow(1, 0);
+        heap.newSoft(1, 1, false);
+        heap.store(0, 0, 1);
+        heap.clear(1);
+        heap.newWeak(2, 0, false);
+        heap.clear(0);
+        heap.beginMarking();
+        heap.read(0, 2);
+        heap.clear(0);
+        Check.same("WEAK, ROW, SOFT and its referent", heap.step(50), 4);
+    }
+
+    static void promise22ReadOfAnEarlierNewOne() {
+        RuntimeHeap heap = new RuntimeHeap();
+        heap.beginMarking();
+        heap.newRow(0, 0);
+        heap.newWeak(1, 0, false);
+        heap.step(1);
+        heap.clear(0);
+        heap.beginMarking();
+        heap.read(0, 1);
+        Check.same("it was NEW in the other marking", heap.step(50), 2);
+    }
+
     static void promise22ReadOfNewOnes() {
         RuntimeHeap heap = new RuntimeHeap();
         heap.newRow(0, 0);
@@ -255,6 +282,26 @@ final class ReferencesTest {
         heap.clear(2);
         Check.same("a value does not hold its key", heap.collectAll(false), 2);
         Check.same("entries", heap.entriesOf(0), 0);
+    }
+
+    static void promise27VanishingEntriesTouchNothingElse() {
+        RuntimeHeap heap = new RuntimeHeap();
+        heap.newText(0, 4);
+        heap.newTable(1, 1);
+        heap.newText(2, 4);
+        for (int i = 0; i < 4; i++) {
+            heap.setByte(0, i, 200 + i);
+            heap.setByte(2, i, 210 + i);
+        }
+        heap.newRow(3, 0);
+        heap.put(1, 3, 3);
+        heap.clear(3);
+        heap.collectAll(false);
+        Check.same("entries", heap.entriesOf(1), 0);
+        for (int i = 0; i < 4; i++) {
+            Check.same("a byte ahead of it", heap.getByte(0, i), 200 + i);
+            Check.same("a byte behind it", heap.getByte(2, i), 210 + i);
+        }
     }
 
     static void promise28Get() {

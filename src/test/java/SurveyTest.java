@@ -117,6 +117,27 @@ final class SurveyTest {
         Check.same("entries", heap.entriesOf(2), 1);
     }
 
+    static void promise75AnewEachTime() {
+        RuntimeHeap heap = new RuntimeHeap();
+        heap.newRow(0, 1);
+        heap.newRow(1, 1);
+        heap.newTable(2, 1);
+        heap.store(0, 0, 1);
+        heap.store(1, 0, 2);
+        heap.clear(1);
+        heap.clear(2);
+        Check.same("a ROW", heap.distance(1), 1);
+        Check.same("a TABLE", heap.distance(2), 2);
+        heap.load(5, 0, 0);
+        Check.same("a ROW", heap.distance(1), 0);
+        Check.same("a TABLE", heap.distance(2), 1);
+        heap.clear(5);
+        heap.load(0, 0, 0);
+        Check.same("a ROW in the first slot", heap.distance(1), 0);
+        heap.clear(0);
+        Check.same("a ROW", heap.distance(1), -1);
+    }
+
     static void promise75ThroughPlain() {
         RuntimeHeap heap = new RuntimeHeap();
         heap.defineKind(-1, 2, 1, false);
@@ -223,6 +244,9 @@ final class SurveyTest {
         Check.no("holds nothing", heap.onCircle(1));
         heap.store(1, 1, 1);
         Check.yes("holds itself", heap.onCircle(1));
+        heap.store(1, 0, 1);
+        heap.store(1, 1, 7);
+        Check.yes("holds itself at the first place", heap.onCircle(1));
         heap.newRow(1, 2);
         heap.newSoft(2, 1, false);
         heap.store(1, 0, 2);
@@ -256,6 +280,14 @@ final class SurveyTest {
         Check.noIndex(heap, "slot 8", () -> heap.referrers(8));
         Check.noIndex(heap, "slot -1", () -> heap.referrers(-1));
         Check.badArgument(heap, "nothing", () -> heap.referrers(7));
+    }
+
+    static void promise80TheFirstObjectCounts() {
+        RuntimeHeap heap = new RuntimeHeap();
+        heap.newRow(0, 2);
+        heap.newRow(1, 0);
+        heap.store(0, 0, 1);
+        Check.same("referrers", heap.referrers(1), 1);
     }
 
     static void promise80NumbersAreNoReferrers() {
@@ -321,6 +353,9 @@ final class SurveyTest {
         heap.store(0, 0, 2);
         heap.store(1, 0, 2);
         Check.yes("both hold the same WEAK", heap.sameShape(0, 1));
+        heap.store(1, 0, 7);
+        Check.no("one holds nothing", heap.sameShape(0, 1));
+        Check.no("one holds nothing", heap.sameShape(1, 0));
         heap.store(1, 0, 3);
         Check.no("they hold two", heap.sameShape(0, 1));
     }
@@ -393,7 +428,18 @@ final class SurveyTest {
         heap.toGlobal(2, 3);
         heap.collectYoung();
         heap.newRow(0, 31);
+        heap.defineKind(-1, 0, 0, true);
+        heap.newObject(4, 0);
+        heap.clear(4);
+        heap.collectAll(false);
+        heap.takeLast(4);
+        heap.newRow(5, 3);
+        heap.newSoft(6, 5, true);
+        heap.newRow(5, 1);
+        heap.newRow(5, 1);
         heap.beginMarking();
+        long digest = heap.digest();
+        Check.yes("a SOFT makes a difference", heap.wouldRemove(false) != heap.wouldRemove(true));
         long d = 58002;
         long[] memory = {heap.frames(), heap.slots(), heap.kinds(), heap.objects(), heap.youngObjects(),
             heap.youngWords(), heap.oldWords(), heap.made(), heap.queued(), heap.lasts(), heap.interned(),
@@ -424,6 +470,6 @@ final class SurveyTest {
         for (int place = 0; place < heap.imageLength(); place++) {
             d = d * 31 + heap.imageAt(place);
         }
-        Check.same("digest", heap.digest(), d);
+        Check.same("digest", digest, d);
     }
 }
