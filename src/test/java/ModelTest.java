@@ -38,6 +38,9 @@ final class ModelTest {
     private static final int[] LEAST_FORM = {0, 0, 0, 0, 2, 3, 6};
     private static final int[] MOST_FORM = {6, 0, 1, 2, 2, 5, 6};
 
+    private static final String MARKING = " clear newObject newRow newText newWeak newSoft newTable load store "
+            + "setByte read put get remove intern deepCopy writeImage readImage beginMarking step ";
+
     private final Method[] onProgram = new Method[METHODS.length];
     private final Method[] onModel = new Method[METHODS.length];
     private final int[] weights = new int[METHODS.length];
@@ -95,6 +98,9 @@ final class ModelTest {
             weights[i] = Integer.parseInt(METHODS[i][1]) * new int[] {0, 1, 1, 1, 5}[next(5)];
         }
         longest = new int[] {1, 3, 12, 41}[next(4)];
+        if (run % 3 == 0) {
+            dwellOnMarking();
+        }
         List<String> calls = new ArrayList<>();
         for (int call = 0; call < CALLS; call++) {
             int method = call < 6 ? next(2) * 7 : choose();
@@ -110,6 +116,14 @@ final class ModelTest {
             }
         }
         return true;
+    }
+
+    /** Little room is asked for and nothing collected, so that marking stays on while much is read and dropped. */
+    private void dwellOnMarking() {
+        for (int i = 0; i < METHODS.length; i++) {
+            weights[i] = MARKING.contains(" " + METHODS[i][0] + " ") ? Integer.parseInt(METHODS[i][1]) : 0;
+        }
+        longest = 3;
     }
 
     private static String answer(Method method, Object target, Object[] arguments) {
