@@ -16,6 +16,9 @@ final class FaceTest {
     private static final Path SOURCE = Path.of("src/main/java/RuntimeHeap.java");
     private static final Class<?>[] TESTS = {KindsAndFramesTest.class, MakingTest.class, ReferencesTest.class,
         NetsTest.class, CollectingTest.class, AskedTest.class, SurveyTest.class};
+    private static final Class<?>[] EDGES = {KindsAndFramesEdgesTest.class, MakingEdgesTest.class,
+        FieldsEdgesTest.class, ReferencesEdgesTest.class, NetsEdgesTest.class, CollectingEdgesTest.class,
+        MarkingEdgesTest.class, AskedEdgesTest.class, SurveyEdgesTest.class};
 
     public static void main(String[] args) {
         Check.runAll(FaceTest.class);
@@ -92,8 +95,13 @@ final class FaceTest {
     }
 
     static void runEachPromiseHasATest() {
+        haveTestsOfEachPromise("a test", TESTS);
+        haveTestsOfEachPromise("a test of its boundary cases", EDGES);
+    }
+
+    private static void haveTestsOfEachPromise(String what, Class<?>[] classes) {
         Set<Integer> tested = new TreeSet<>();
-        for (Class<?> tests : TESTS) {
+        for (Class<?> tests : classes) {
             for (Method method : tests.getDeclaredMethods()) {
                 Matcher name = Pattern.compile("promise(\\d+)[A-Z].*").matcher(method.getName());
                 if (name.matches()) {
@@ -102,7 +110,7 @@ final class FaceTest {
             }
         }
         for (int promise = 1; promise <= 84; promise++) {
-            Check.yes("promise " + promise + " has a test", tested.contains(promise));
+            Check.yes("promise " + promise + " has " + what, tested.contains(promise));
         }
     }
 }
