@@ -243,6 +243,7 @@ final class AskedEdgesTest {
     static void promise59NoneAndThoseThatAreNotReached() {
         Edge.changesNothing("none", 0, Edge.NEW, RuntimeHeap::objects);
         Edge.changesNothing("all of them", 7, SORTS, RuntimeHeap::objects);
+        Edge.changesNothing("the most", 208, Fill::mostObjects, RuntimeHeap::objects);
         Edge.changesNothing("an unreached one is PRESENT", 7, Edge.both(SORTS, heap -> heap.clear(TEXT)),
             RuntimeHeap::objects);
         Edge.changesNothing("a removed one is not", 6, Edge.both(SORTS, heap -> {
@@ -254,6 +255,7 @@ final class AskedEdgesTest {
     static void promise60NoneAndOldOnesDoNotCount() {
         Edge.changesNothing("none", 0, Edge.NEW, RuntimeHeap::youngObjects);
         Edge.changesNothing("all of them", 7, SORTS, RuntimeHeap::youngObjects);
+        Edge.changesNothing("the most", 48, Fill::mostObjects, RuntimeHeap::youngObjects);
         Edge.changesNothing("6 of 8", 6, AskedEdgesTest::extremes, RuntimeHeap::youngObjects);
         Edge.changesNothing("none of 7", 0, Edge.both(SORTS, heap -> heap.collectAll(false)),
             RuntimeHeap::youngObjects);

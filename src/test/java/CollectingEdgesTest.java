@@ -549,6 +549,67 @@ final class CollectingEdgesTest {
         Check.same("entries", heap.entriesOf(0), 0);
     }
 
+    static void promise37StepFiveATableThatOnlyAFinalOneHolds() {
+        RuntimeHeap heap = withKinds();
+        heap.newObject(0, 0);
+        heap.newTable(1, 2);
+        heap.store(0, 0, 1);
+        heap.newText(2, 0);
+        heap.put(1, 2, 2);
+        heap.put(1, 0, 0);
+        clearAll(heap);
+        Check.same("a key that is not KEPT", heap.collectAll(false), 1);
+        heap.takeLast(0);
+        heap.load(1, 0, 0);
+        Check.same("its entry has vanished", heap.entriesOf(1), 1);
+        Check.same("the other is there", heap.get(2, 1, 0), 0);
+    }
+
+    static void promise37WhatIsKeptKeepsWhatItHolds() {
+        // Each kept object stands between two that go, and behind a TABLE an entry of which vanishes.
+        RuntimeHeap heap = withKinds();
+        heap.defineKind(1, 0, 2, false);
+        heap.newRow(7, 3);
+        heap.newText(0, 9);
+        heap.newRow(7, 5);
+        heap.newTable(1, 1);
+        heap.put(1, 7, 7);
+        heap.newText(2, 3);
+        heap.newRow(7, 1);
+        heap.newObject(3, 2);
+        heap.newRow(7, 2);
+        heap.newRow(4, 2);
+        for (int place = 0; place < 9; place++) {
+            heap.setByte(0, place, 200 + place);
+        }
+        for (int place = 0; place < 3; place++) {
+            heap.setByte(2, place, 210 + place);
+        }
+        heap.setNumber(3, 0, 220);
+        heap.setNumber(3, 1, 221);
+        heap.store(3, 1, 2);
+        heap.store(4, 0, 3);
+        heap.clear(7);
+        Check.same("four go", heap.collectAll(false), 4);
+        heap.newText(7, 40);
+        for (int place = 0; place < 40; place++) {
+            heap.setByte(7, place, 1);
+        }
+        for (int place = 0; place < 9; place++) {
+            Check.same("byte " + place, heap.getByte(0, place), 200 + place);
+        }
+        for (int place = 0; place < 3; place++) {
+            Check.same("byte " + place + " behind the TABLE", heap.getByte(2, place), 210 + place);
+        }
+        Check.same("number 0", heap.getNumber(3, 0), 220);
+        Check.same("number 1", heap.getNumber(3, 1), 221);
+        Check.same("field 0", heap.load(5, 3, 0), -1);
+        Check.same("field 1", heap.load(5, 3, 1), heap.numberOf(2));
+        Check.same("place 0", heap.load(5, 4, 0), heap.numberOf(3));
+        Check.same("place 1", heap.load(5, 4, 1), -1);
+        Check.same("entries", heap.entriesOf(1), 0);
+    }
+
     static void promise37StepSevenThreeHundredAndTwentyWordsJustFit() {
         RuntimeHeap heap = new RuntimeHeap();
         Fill.words(heap, 300, 20);

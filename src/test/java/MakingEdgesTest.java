@@ -117,6 +117,24 @@ final class MakingEdgesTest {
         }
     }
 
+    static void promise9FreshAlsoWhereAnOlderFinalizedOneWas() {
+        RuntimeHeap heap = new RuntimeHeap();
+        heap.defineKind(-1, 0, 0, true);
+        heap.newObject(0, 0);
+        heap.clear(0);
+        heap.collectYoung();
+        heap.takeLast(0);
+        heap.clear(0);
+        heap.collectAll(false);
+        Check.same("it is gone", heap.objects(), 0);
+        heap.newObject(0, 0);
+        Check.same("age", heap.ageOf(0), 0);
+        Check.no("FINALIZED", heap.isFinalized(0));
+        heap.clear(0);
+        heap.collectAll(false);
+        Check.same("it goes to the LAST ROW in its turn", heap.lasts(), 1);
+    }
+
     static void promise9AsksForItsWords() {
         asksForItsWords("no fields", 2, MakingEdgesTest::kinds, (heap, to) -> heap.newObject(to, 0));
         asksForItsWords("8 and 8 fields", 18, MakingEdgesTest::kinds, (heap, to) -> heap.newObject(to, 2));

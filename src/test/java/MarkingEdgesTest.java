@@ -179,6 +179,14 @@ final class MarkingEdgesTest {
         Check.no("none is left", heap.isMarking());
     }
 
+    static void promise39WithAsManyObjectsAsThereCanBe() {
+        RuntimeHeap heap = Edge.behind(Fill::mostObjects);
+        Check.same("beginMarking", heap.beginMarking(), 2);
+        Check.same("step", heap.step(50), 2);
+        Check.same("objects", heap.objects(), 2);
+        Check.same("full collections", heap.fullCollections(), 2);
+    }
+
     static void promise39EndsAlsoIfThereNeverWasOne() {
         RuntimeHeap heap = new RuntimeHeap();
         heap.newRow(0, 0);

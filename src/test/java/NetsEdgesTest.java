@@ -40,59 +40,15 @@ final class NetsEdgesTest {
         }
     }
 
-    /** Makes an IMAGE of just these numbers, 3 to 400 of them; no object is left. */
-    private static void image(RuntimeHeap heap, int... numbers) {
-        if (numbers.length <= 123) {
-            heap.newText(0, numbers.length - 3);
-        } else {
-            int texts = (numbers.length - 7 + 121) / 122;
-            int left = numbers.length - 7;
-            heap.newRow(0, 4);
-            for (int i = 0; i < texts; i++) {
-                int share = left / (texts - i);
-                heap.newText(1, share - 2);
-                heap.store(0, i, 1);
-                left -= share;
-            }
-        }
-        Check.same("length of the IMAGE", heap.writeImage(0), numbers.length);
-        for (int place = 0; place < numbers.length; place++) {
-            if (heap.imageAt(place) != numbers[place]) {
-                heap.setImage(place, numbers[place]);
-            }
-        }
-        heap.clear(0);
-        heap.clear(1);
-        heap.collectAll(false);
-        Check.same("objects", heap.objects(), 0);
-    }
-
-    /** These numbers, and behind them so many zeros. */
-    private static int[] withZeros(int zeros, int... numbers) {
-        int[] all = new int[numbers.length + zeros];
-        System.arraycopy(numbers, 0, all, 0, numbers.length);
-        return all;
-    }
-
-    /** An IMAGE of so many TEXTs of no bytes, 2 words each. */
-    private static int[] emptyTexts(int texts) {
-        int[] all = new int[1 + 2 * texts];
-        all[0] = texts;
-        for (int i = 0; i < texts; i++) {
-            all[1 + 2 * i] = 2;
-        }
-        return all;
-    }
-
     private static void wellFormed(String what, Edge.Act scene, int... numbers) {
-        RuntimeHeap heap = Edge.behind(Edge.both(scene, made -> image(made, numbers)));
+        RuntimeHeap heap = Edge.behind(Edge.both(scene, made -> Fill.image(made, numbers)));
         int made = heap.made();
         Check.same(what + ": readImage", heap.readImage(0), made);
         Check.same(what + ": what to holds", heap.numberOf(0), made);
     }
 
     private static void malformed(String what, Edge.Act scene, int... numbers) {
-        Edge.changesNothing(what, -2, Edge.both(scene, heap -> image(heap, numbers)), heap -> heap.readImage(0));
+        Edge.changesNothing(what, -2, Edge.both(scene, heap -> Fill.image(heap, numbers)), heap -> heap.readImage(0));
     }
 
     private static void isImage(String what, RuntimeHeap heap, int... numbers) {
@@ -340,6 +296,21 @@ final class NetsEdgesTest {
         Check.yes("3 words", heap.deepCopy(1, 0) >= 0);
         Check.same("young words", heap.youngWords(), 96);
         Check.same("collections", heap.youngCollections() + heap.fullCollections(), 0);
+        heap.deepCopy(2, 0);
+        Check.yes("but the others are", heap.youngCollections() + heap.fullCollections() > 0);
+    }
+
+    static void promise31ByOneWordThereIsNoRoomForTheOthers() {
+        RuntimeHeap heap = new RuntimeHeap();
+        heap.newRow(0, 1);
+        heap.newText(1, 0);
+        heap.intern(1, 1);
+        heap.store(0, 0, 1);
+        heap.toGlobal(7, 0);
+        Fill.words(heap, 0, 94);
+        heap.fromGlobal(0, 7);
+        heap.deepCopy(1, 0);
+        Check.same("3 words beside 94", heap.youngCollections(), 1);
     }
 
     static void promise31ByRisingNumbersOfTheOriginals() {
@@ -568,9 +539,9 @@ final class NetsEdgesTest {
     // ---- promise 33
 
     static void promise33PlaceIsOneOfTheImage() {
-        Edge.Act least = heap -> image(heap, 1, 2, 0);
+        Edge.Act least = heap -> Fill.image(heap, 1, 2, 0);
         Edge.range(INDEX, "setImage, 3 numbers", 0, 2, least, (heap, place) -> heap.setImage(place, 1));
-        Edge.Act most = heap -> image(heap, withZeros(399, 1));
+        Edge.Act most = heap -> Fill.image(heap, Fill.withZeros(399, 1));
         Edge.range(INDEX, "setImage, 400 numbers", 0, 399, most, (heap, place) -> heap.setImage(place, 1));
     }
 
@@ -579,7 +550,7 @@ final class NetsEdgesTest {
     }
 
     static void promise33AnyValue() {
-        RuntimeHeap heap = Edge.behind(scene -> image(scene, 1, 2, 0));
+        RuntimeHeap heap = Edge.behind(scene -> Fill.image(scene, 1, 2, 0));
         Check.same("what it was", heap.setImage(2, Integer.MIN_VALUE), 0);
         Check.same("the least", heap.imageAt(2), Integer.MIN_VALUE);
         Check.same("what it was", heap.setImage(2, Integer.MAX_VALUE), Integer.MIN_VALUE);
@@ -591,12 +562,12 @@ final class NetsEdgesTest {
     // ---- promise 34
 
     static void promise34ToIsASlot() {
-        Edge.slot("readImage", heap -> image(heap, 1, 2, 0), NetsEdgesTest::putText, RuntimeHeap::readImage);
+        Edge.slot("readImage", heap -> Fill.image(heap, 1, 2, 0), NetsEdgesTest::putText, RuntimeHeap::readImage);
     }
 
     static void promise34SlotIsLookedAtFirst() {
         Edge.noIndex("slot 8, no IMAGE", Edge.NEW, heap -> heap.readImage(8));
-        Edge.noIndex("slot -1, not well formed", heap -> image(heap, 0, 2, 0), heap -> heap.readImage(-1));
+        Edge.noIndex("slot -1, not well formed", heap -> Fill.image(heap, 0, 2, 0), heap -> heap.readImage(-1));
     }
 
     static void promise34AnEmptyImageIsNotWellFormed() {
@@ -619,6 +590,40 @@ final class NetsEdgesTest {
         malformed("half a beginning behind", Edge.NEW, 2, 2, 0, 1);
     }
 
+    static void promise34TheLastOfFourHundredNumbersBeginsAnObject() {
+        // A row and two texts take 278 numbers, the third text 121, so that one number is left.
+        for (int last = 0; last <= 3; last++) {
+            int[] numbers = longImage(4);
+            numbers[279] = 119;
+            numbers[399] = last;
+            malformed("400 numbers, the last one " + last, heap -> heap.defineKind(-1, 0, 0, false), numbers);
+        }
+    }
+
+    static void promise34AnObjectGoesBeyondFourHundredNumbers() {
+        for (int form = 1; form <= 3; form++) {
+            for (int length : new int[] {1, 2, 40}) {
+                int[] numbers = longImage(4);
+                numbers[279] = 118;
+                numbers[398] = form;
+                numbers[399] = length;
+                malformed("form " + form + " of length " + length, Edge.NEW, numbers);
+            }
+        }
+        int[] numbers = longImage(4);
+        numbers[279] = 118;
+        numbers[398] = 2;
+        wellFormed("form 2 of length 0", Edge.NEW, numbers);
+        malformed("a kind with fields", heap -> heap.defineKind(-1, 0, 1, false), withKindAtTheEnd(numbers));
+        wellFormed("a kind without", heap -> heap.defineKind(-1, 0, 0, false), withKindAtTheEnd(numbers));
+    }
+
+    private static int[] withKindAtTheEnd(int[] numbers) {
+        int[] others = numbers.clone();
+        others[398] = 0;
+        return others;
+    }
+
     static void promise34ALongImageHasOneNumberTooManyOrTooFew() {
         wellFormed("3 texts in 400 numbers", Edge.NEW, longImage(3));
         malformed("one text fewer", Edge.NEW, longImage(2));
@@ -627,7 +632,7 @@ final class NetsEdgesTest {
 
     /** 400 numbers with 3 texts of 120 bytes and a row of 31 places, which says how many objects there are. */
     private static int[] longImage(int texts) {
-        int[] numbers = withZeros(397, texts + 1, 1, 31);
+        int[] numbers = Fill.withZeros(397, texts + 1, 1, 31);
         for (int text = 0; text < 3; text++) {
             numbers[34 + 122 * text] = 2;
             numbers[35 + 122 * text] = 120;
@@ -659,10 +664,28 @@ final class NetsEdgesTest {
         malformed("kind 0 of none", Edge.NEW, 1, 0, 0);
     }
 
+    static void promise34EachKindHasItsOwnFields() {
+        Edge.Act kinds = heap -> {
+            heap.defineKind(-1, 0, 1, false);
+            heap.defineKind(0, 2, 0, false);
+        };
+        RuntimeHeap heap = Edge.behind(Edge.both(kinds, made -> Fill.image(made, 2, 0, 1, 2, 1, 5, 0, 0, 6)));
+        heap.readImage(0);
+        Check.same("kind", heap.kindOf(0), 1);
+        Check.same("words", heap.wordsOf(0), 5);
+        Check.same("number", heap.getNumber(0, 0), 5);
+        Check.same("field 1", heap.load(2, 0, 1), heap.numberOf(0));
+        heap.load(1, 0, 0);
+        Check.same("kind", heap.kindOf(1), 0);
+        Check.same("number", heap.getNumber(1, 0), 6);
+        malformed("the fields of the other kind", kinds, 1, 0, 1, 5);
+        malformed("the fields of the other kind", kinds, 1, 0, 0, 0, 0, 5);
+    }
+
     static void promise34LengthOfARowIsZeroToForty() {
         wellFormed("no places", Edge.NEW, 1, 1, 0);
-        wellFormed("40 places", Edge.NEW, withZeros(40, 1, 1, 40));
-        malformed("41 places", Edge.NEW, withZeros(41, 1, 1, 41));
+        wellFormed("40 places", Edge.NEW, Fill.withZeros(40, 1, 1, 40));
+        malformed("41 places", Edge.NEW, Fill.withZeros(41, 1, 1, 41));
         malformed("-1 places", Edge.NEW, 1, 1, -1);
         malformed("the least", Edge.NEW, 1, 1, Integer.MIN_VALUE);
         malformed("the greatest", Edge.NEW, 1, 1, Integer.MAX_VALUE);
@@ -671,8 +694,8 @@ final class NetsEdgesTest {
     static void promise34LengthOfATextIsZeroToOneHundredAndTwenty() {
         for (int form = 2; form <= 3; form++) {
             wellFormed("no bytes", Edge.NEW, 1, form, 0);
-            wellFormed("120 bytes", Edge.NEW, withZeros(120, 1, form, 120));
-            malformed("121 bytes", Edge.NEW, withZeros(121, 1, form, 121));
+            wellFormed("120 bytes", Edge.NEW, Fill.withZeros(120, 1, form, 120));
+            malformed("121 bytes", Edge.NEW, Fill.withZeros(121, 1, form, 121));
             malformed("-1 bytes", Edge.NEW, 1, form, -1);
             malformed("the least", Edge.NEW, 1, form, Integer.MIN_VALUE);
             malformed("the greatest", Edge.NEW, 1, form, Integer.MAX_VALUE);
@@ -721,14 +744,14 @@ final class NetsEdgesTest {
         Edge.Act kind = heap -> heap.defineKind(-1, 0, 2, false);
         wellFormed("the least and the greatest", kind, 1, 0, 0, Integer.MIN_VALUE, Integer.MAX_VALUE);
         RuntimeHeap heap = Edge.behind(kind);
-        image(heap, 1, 0, 0, Integer.MIN_VALUE, Integer.MAX_VALUE);
+        Fill.image(heap, 1, 0, 0, Integer.MIN_VALUE, Integer.MAX_VALUE);
         heap.readImage(0);
         Check.same("the least", heap.getNumber(0, 0), Integer.MIN_VALUE);
         Check.same("the greatest", heap.getNumber(0, 1), Integer.MAX_VALUE);
     }
 
     static void promise34ObjectsNeedNotBeOfTheNetOfTheFirstOne() {
-        RuntimeHeap heap = Edge.behind(scene -> image(scene, 2, 2, 0, 1, 0));
+        RuntimeHeap heap = Edge.behind(scene -> Fill.image(scene, 2, 2, 0, 1, 0));
         heap.readImage(0);
         Check.same("both are made", heap.objects(), 2);
         Check.same("the second one is not reached", heap.collectAll(false), 1);
@@ -737,24 +760,24 @@ final class NetsEdgesTest {
     static void promise34ThirtyTwoWordsAreYoungMoreAreOld() {
         for (int words = 32; words <= 34; words += 2) {
             RuntimeHeap heap = Edge.behind(Edge.NEW);
-            image(heap, emptyTexts(words / 2));
+            Fill.image(heap, Fill.emptyTexts(words / 2));
             heap.readImage(0);
             Check.same("objects", heap.objects(), words / 2);
             Check.same("YOUNG ones of " + words + " words", heap.youngObjects(), words == 32 ? 16 : 0);
             Check.same("age", heap.ageOf(0), 0);
         }
-        RuntimeHeap heap = Edge.behind(scene -> image(scene, withZeros(31, 1, 1, 31)));
+        RuntimeHeap heap = Edge.behind(scene -> Fill.image(scene, Fill.withZeros(31, 1, 1, 31)));
         heap.readImage(0);
         Check.yes("33 words", heap.isOld(0));
     }
 
     static void promise34AsManyWordsAsThereCanBe() {
-        RuntimeHeap heap = Edge.behind(scene -> image(scene, emptyTexts(160)));
+        RuntimeHeap heap = Edge.behind(scene -> Fill.image(scene, Fill.emptyTexts(160)));
         int made = heap.made();
         Check.same("320 words", heap.readImage(0), made);
         Check.same("old words", heap.oldWords(), 320);
         Check.same("the next number", heap.made(), made + 160);
-        RuntimeHeap more = Edge.behind(scene -> image(scene, emptyTexts(161)));
+        RuntimeHeap more = Edge.behind(scene -> Fill.image(scene, Fill.emptyTexts(161)));
         more.newRow(0, 0);
         made = more.made();
         Check.same("322 words", more.readImage(0), -1);
@@ -763,7 +786,7 @@ final class NetsEdgesTest {
     }
 
     static void promise34AsManyObjectsAsCanBeWritten() {
-        RuntimeHeap heap = Edge.behind(scene -> image(scene, emptyTexts(199)));
+        RuntimeHeap heap = Edge.behind(scene -> Fill.image(scene, Fill.emptyTexts(199)));
         Check.same("398 words in 399 numbers", heap.readImage(0), -1);
         heap.setImage(0, 200);
         Check.same("one too many", heap.readImage(0), -2);
@@ -832,7 +855,7 @@ final class NetsEdgesTest {
     }
 
     static void promise34AnInternedTextThatIsThereUsesUpNoNumber() {
-        RuntimeHeap heap = Edge.behind(scene -> image(scene, 2, 1, 1, 2, 3, 1, 7));
+        RuntimeHeap heap = Edge.behind(scene -> Fill.image(scene, 2, 1, 1, 2, 3, 1, 7));
         text(heap, 1, 7);
         heap.intern(1, 1);
         int number = heap.numberOf(1);
@@ -842,7 +865,7 @@ final class NetsEdgesTest {
     }
 
     static void promise34ATextThatIsNotInternedIsNotTaken() {
-        RuntimeHeap heap = Edge.behind(scene -> image(scene, 1, 3, 1, 7));
+        RuntimeHeap heap = Edge.behind(scene -> Fill.image(scene, 1, 3, 1, 7));
         text(heap, 1, 7);
         int made = heap.made();
         Check.same("one is made", heap.readImage(0), made);
@@ -851,7 +874,7 @@ final class NetsEdgesTest {
     }
 
     static void promise34AnInternedTextIsNotTakenForOneThatIsNot() {
-        RuntimeHeap heap = Edge.behind(scene -> image(scene, 1, 2, 1, 7));
+        RuntimeHeap heap = Edge.behind(scene -> Fill.image(scene, 1, 2, 1, 7));
         text(heap, 1, 7);
         heap.intern(1, 1);
         int made = heap.made();
@@ -860,7 +883,7 @@ final class NetsEdgesTest {
     }
 
     static void promise34AnInternedTextThatIsThereTwiceIsMadeOnce() {
-        RuntimeHeap heap = Edge.behind(scene -> image(scene, 3, 1, 2, 2, 3, 3, 1, 7, 3, 1, 7));
+        RuntimeHeap heap = Edge.behind(scene -> Fill.image(scene, 3, 1, 2, 2, 3, 3, 1, 7, 3, 1, 7));
         int made = heap.made();
         Check.same("readImage", heap.readImage(0), made);
         Check.same("made", heap.made(), made + 2);
@@ -870,7 +893,7 @@ final class NetsEdgesTest {
     }
 
     static void promise34TheFirstOneMayBeAnInternedTextThatIsThere() {
-        RuntimeHeap heap = Edge.behind(scene -> image(scene, 1, 3, 0));
+        RuntimeHeap heap = Edge.behind(scene -> Fill.image(scene, 1, 3, 0));
         text(heap, 1);
         heap.intern(1, 1);
         int number = heap.numberOf(1);
@@ -880,7 +903,7 @@ final class NetsEdgesTest {
     }
 
     static void promise34TheSameImageTwiceMakesTwoNets() {
-        RuntimeHeap heap = Edge.behind(scene -> image(scene, 2, 1, 1, 2, 1, 1, 1));
+        RuntimeHeap heap = Edge.behind(scene -> Fill.image(scene, 2, 1, 1, 2, 1, 1, 1));
         int made = heap.made();
         Check.same("once", heap.readImage(0), made);
         Check.same("twice", heap.readImage(1), made + 2);

@@ -532,6 +532,25 @@ final class ReferencesEdgesTest {
         }
     }
 
+    static void promise28ValuesThatOnlyTheirEntriesHold() {
+        RuntimeHeap heap = new RuntimeHeap();
+        heap.newTable(0, 16);
+        heap.newRow(1, 16);
+        for (int entry = 0; entry < 16; entry++) {
+            heap.newText(2, 0);
+            heap.store(1, entry, 2);
+            heap.newText(3, 0);
+            heap.put(0, 2, 3);
+        }
+        heap.clear(2);
+        heap.clear(3);
+        Check.same("all of them", heap.collectAll(false), 0);
+        for (int entry = 0; entry < 16; entry++) {
+            int key = heap.load(2, 1, entry);
+            Check.same("the value of entry " + entry, heap.get(3, 0, 2), key + 1);
+        }
+    }
+
     // ---- promise 29
 
     static void promise29TableIsASlot() {

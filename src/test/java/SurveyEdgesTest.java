@@ -61,6 +61,14 @@ final class SurveyEdgesTest {
         Check.yes("the next one", heap.isPresent(2));
     }
 
+    static void promise73OfAsManyAsThereCanBe() {
+        RuntimeHeap heap = Edge.behind(Fill::mostObjects);
+        Check.yes("the last of 208", heap.isPresent(heap.made() - 1));
+        Check.yes("the first of 208", heap.isPresent(heap.made() - 208));
+        Check.no("one ahead", heap.isPresent(heap.made() - 209));
+        Check.no("one behind", heap.isPresent(heap.made()));
+    }
+
     // ---- promise 74
 
     static void promise74AnyNumberMayBeAsked() {
@@ -185,6 +193,16 @@ final class SurveyEdgesTest {
         }
     }
 
+    static void promise75OfWhatARootHoldsNowThoughItWasFarther() {
+        RuntimeHeap heap = Edge.behind(SurveyEdgesTest::rowOfText);
+        heap.load(1, 0, 1);
+        heap.clear(1);
+        Check.same("one step", heap.distance(1), 1);
+        heap.load(0, 0, 1);
+        Check.same("the first slot holds it", heap.distance(1), 0);
+        Check.same("and nothing leads to the ROW", heap.distance(0), -1);
+    }
+
     static void promise75TheLongestWay() {
         RuntimeHeap heap = new RuntimeHeap();
         heap.newRow(0, 1);
@@ -254,6 +272,12 @@ final class SurveyEdgesTest {
             int due = heap.wouldRemove(isPressed);
             Check.same("collectAll", heap.collectAll(isPressed), due);
         }
+    }
+
+    static void promise76OfAsManyAsThereCanBe() {
+        Edge.changesNothing("206 of 208", 206, Fill::mostObjects, heap -> heap.wouldRemove(false));
+        Edge.answers("206 of 208 are removed", 206, Fill::mostObjects, heap -> heap.collectAll(false));
+        Edge.answers("also instead of a young collection", 206, Fill::mostObjects, RuntimeHeap::collectYoung);
     }
 
     // ---- promise 77
@@ -373,6 +397,13 @@ final class SurveyEdgesTest {
             heap.newRow(0, 40);
             heap.newRow(0, 0);
         }, RuntimeHeap::heaviest);
+    }
+
+    static void promise78OfAsManyAsThereCanBe() {
+        RuntimeHeap heap = Edge.behind(Fill::mostObjects);
+        Check.same("the one with the smaller number", heap.heaviest(), heap.numberOf(0));
+        heap.clear(0);
+        Check.same("the last of 208", heap.heaviest(), heap.numberOf(1));
     }
 
     static void promise78OneOfTheQueue() {
@@ -603,6 +634,21 @@ final class SurveyEdgesTest {
         });
     }
 
+    static void promise81NothingAgainstSomethingNew() {
+        isAlike("the only place", false, heap -> {
+            heap.newRow(0, 1);
+            heap.newRow(1, 1);
+            heap.newText(2, 0);
+            heap.store(0, 0, 2);
+        });
+        isAlike("a PLAIN against nothing", false, heap -> {
+            heap.defineKind(-1, 2, 0, false);
+            heap.newObject(0, 0);
+            heap.newObject(1, 0);
+            heap.store(1, 1, 0);
+        });
+    }
+
     static void promise81NothingAgainstSomething() {
         Edge.Act rows = heap -> {
             heap.newRow(0, 40);
@@ -734,6 +780,7 @@ final class SurveyEdgesTest {
         Edge.changesNothing("a full one", 0, heap -> Fill.words(heap, 320, 96), RuntimeHeap::flaws);
         Edge.changesNothing("behind a call without room", 0, Edge.both(heap -> Fill.words(heap, 320, 96),
             heap -> heap.newRow(0, 40)), RuntimeHeap::flaws);
+        Edge.changesNothing("as many objects as there can be", 0, Fill::mostObjects, RuntimeHeap::flaws);
         Edge.changesNothing("while marking is on", 0, Edge.both(SurveyEdgesTest::byOtherWays,
             RuntimeHeap::beginMarking), RuntimeHeap::flaws);
     }
@@ -872,6 +919,10 @@ final class SurveyEdgesTest {
             heap.setImage(200, Integer.MAX_VALUE);
             heap.setImage(399, -1);
         });
+    }
+
+    static void promise84AsManyObjectsAsThereCanBe() {
+        isDigested("208 objects", Fill::mostObjects);
     }
 
     static void promise84AFullMemory() {
