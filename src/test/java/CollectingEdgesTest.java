@@ -213,6 +213,48 @@ final class CollectingEdgesTest {
         Check.same("by a full one the others", heap.lasts(), 2);
     }
 
+    static void promise36WhatAnOldUnreachedOneHoldsIsStrong() {
+        RuntimeHeap heap = withKinds();
+        heap.newRow(0, 31);
+        heap.newObject(1, 0);
+        heap.newRow(2, 0);
+        heap.newSoft(2, 2, true);
+        heap.store(0, 0, 1);
+        heap.store(0, 1, 2);
+        clearAll(heap);
+        Check.same("none goes, not by a SOFT either", heap.collectYoung(), 0);
+        Check.same("a FINAL one is not FINALIZED", heap.lasts(), 0);
+        Check.same("the SOFT is not cleared", heap.queued(), 0);
+    }
+
+    static void promise36AReferenceThatOnlyAnOldUnreachedOneHoldsIsClearedAndQueued() {
+        RuntimeHeap heap = new RuntimeHeap();
+        heap.newRow(0, 31);
+        heap.newText(1, 0);
+        heap.newPhantom(2, 1);
+        heap.newWeak(3, 1, true);
+        heap.store(0, 0, 2);
+        heap.store(0, 1, 3);
+        clearAll(heap);
+        Check.same("only the TEXT goes", heap.collectYoung(), 1);
+        Check.same("the PHANTOM", heap.poll(0), 2);
+        Check.same("the WEAK", heap.poll(0), 3);
+        Check.same("no other", heap.poll(0), -1);
+    }
+
+    static void promise36NothingOfARemovedOldOneIsLeft() {
+        RuntimeHeap heap = new RuntimeHeap();
+        heap.newRow(0, 40);
+        heap.newRow(1, 0);
+        heap.store(0, 0, 1);
+        clearAll(heap);
+        Check.same("both go", heap.collectAll(false), 2);
+        Check.same("none is there", heap.collectYoung(), 0);
+        heap.newRow(0, 0);
+        heap.clear(0);
+        Check.same("it is not held where the others were", heap.collectYoung(), 1);
+    }
+
     static void promise36NotPressed() {
         RuntimeHeap heap = new RuntimeHeap();
         heap.newRow(0, 0);

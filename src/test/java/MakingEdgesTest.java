@@ -457,6 +457,26 @@ final class MakingEdgesTest {
         Check.same("full collections", heap.fullCollections(), full);
     }
 
+    static void promise10ARefusedCallAsksForNoRoom() {
+        Edge.Act full = heap -> {
+            Fill.words(heap, 320, 96);
+            heap.fromGlobal(0, 0);
+            heap.beginMarking();
+        };
+        Edge.badArgument("newObject", full, heap -> heap.newObject(0, 0));
+        Edge.badArgument("newRow", full, heap -> heap.newRow(0, 41));
+        Edge.badArgument("newText", full, heap -> heap.newText(0, 121));
+        Edge.badArgument("newWeak", full, heap -> heap.newWeak(0, 1, true));
+        Edge.badArgument("newSoft", full, heap -> heap.newSoft(0, 1, true));
+        Edge.badArgument("newPhantom", full, heap -> heap.newPhantom(0, 1));
+        Edge.badArgument("newTable", full, heap -> heap.newTable(0, 17));
+        Edge.badArgument("deepCopy", full, heap -> heap.deepCopy(0, 1));
+        Edge.noIndex("newRow", full, heap -> heap.newRow(8, 40));
+        Edge.noIndex("newWeak", full, heap -> heap.newWeak(0, 8, true));
+        Edge.noIndex("deepCopy", full, heap -> heap.deepCopy(8, 0));
+        Edge.noIndex("readImage", full, heap -> heap.readImage(8));
+    }
+
     static void promise10RoomIsThereUpToTheLastWord() {
         RuntimeHeap heap = new RuntimeHeap();
         Fill.words(heap, 320, 94);

@@ -449,6 +449,25 @@ final class MarkingEdgesTest {
         Check.same("objects", heap.objects(), 4);
     }
 
+    static void promise22ARefusedReadIsNotRead() {
+        Edge.Act scene = Edge.both(MarkingEdgesTest::weak, RuntimeHeap::beginMarking);
+        Edge.noIndex("to 8", scene, heap -> heap.read(8, 0));
+        Edge.noIndex("to -1", scene, heap -> heap.read(-1, 0));
+        RuntimeHeap heap = Edge.behind(scene);
+        Check.noIndex(heap, "to 8", () -> heap.read(8, 0));
+        Check.same("visits", visits(heap), 1);
+    }
+
+    static void promise30WhatARefusedInternWouldFindIsNotRead() {
+        RuntimeHeap heap = Edge.behind(MarkingEdgesTest::unreachedInterned);
+        heap.newText(1, 2);
+        heap.beginMarking();
+        Check.noIndex(heap, "to 8", () -> heap.intern(8, 1));
+        Check.noIndex(heap, "to 8", () -> heap.readImage(8));
+        Check.same("only the other TEXT", visits(heap), 1);
+        Check.no("the INTERNED one", heap.isPresent(0));
+    }
+
     static void promise22ASoftIsReadLikeAWeak() {
         // The SOFT is itself reached by nothing but a WEAK; read, it leads on to its referent, not PRESSED.
         RuntimeHeap heap = new RuntimeHeap();

@@ -624,6 +624,20 @@ final class NetsEdgesTest {
         return others;
     }
 
+    static void promise34OneThatIsNotWellFormedAsksForNoRoom() {
+        Edge.changesNothing("a kind that is not there", -2, heap -> {
+            heap.newRow(0, 40);
+            heap.writeImage(0);
+            heap.setImage(1, 0);
+            heap.clear(0);
+            heap.collectAll(false);
+            for (int i = 0; i < 3; i++) {
+                heap.newRow(i, 30);
+            }
+            heap.beginMarking();
+        }, heap -> heap.readImage(3));
+    }
+
     static void promise34ALongImageHasOneNumberTooManyOrTooFew() {
         wellFormed("3 texts in 400 numbers", Edge.NEW, longImage(3));
         malformed("one text fewer", Edge.NEW, longImage(2));
@@ -900,6 +914,44 @@ final class NetsEdgesTest {
         Check.same("readImage", heap.readImage(0), number);
         Check.same("to", heap.numberOf(0), number);
         Check.same("made", heap.made(), number + 1);
+    }
+
+    static void promise34NoRoomAlsoIfOnlyAnInternedTextThatIsThereIsWritten() {
+        RuntimeHeap heap = new RuntimeHeap();
+        heap.newText(0, 0);
+        heap.intern(0, 0);
+        heap.writeImage(0);
+        heap.toGlobal(7, 0);
+        Fill.words(heap, 320, 96);
+        Check.same("readImage", heap.readImage(0), -1);
+        Check.same("to", heap.numberOf(0), -1);
+        Check.yes("it is still there", heap.isPresent(0));
+    }
+
+    static void promise34AnInternedTextThatTheSearchForRoomRemovesIsMadeAnew() {
+        RuntimeHeap heap = new RuntimeHeap();
+        heap.newText(0, 4);
+        heap.intern(0, 0);
+        heap.writeImage(0);
+        heap.clear(0);
+        Fill.words(heap, 0, 94);
+        int made = heap.made();
+        Check.same("readImage", heap.readImage(0), made);
+        Check.yes("INTERNED", heap.isInterned(0));
+        Check.same("interned", heap.interned(), 1);
+        Check.no("the former one", heap.isPresent(0));
+    }
+
+    static void promise34MadeInTheirOrder() {
+        RuntimeHeap heap = Edge.behind(scene -> Fill.image(scene, 4, 1, 3, 4, 3, 2, 2, 0, 1, 0, 2, 1, 9));
+        int made = heap.made();
+        Check.same("the first", heap.readImage(0), made);
+        Check.same("the fourth, in place 0", heap.load(1, 0, 0), made + 3);
+        Check.same("the third, in place 1", heap.load(2, 0, 1), made + 2);
+        Check.same("the second, in place 2", heap.load(3, 0, 2), made + 1);
+        Check.same("the byte of the fourth", heap.getByte(1, 0), 9);
+        Check.same("the form of the third", heap.formOf(2), 1);
+        Check.same("the bytes of the second", heap.lengthOf(3), 0);
     }
 
     static void promise34TheSameImageTwiceMakesTwoNets() {

@@ -96,6 +96,19 @@ final class SurveyEdgesTest {
         }
     }
 
+    static void promise74NowAlsoWhileMarkingIsOn() {
+        RuntimeHeap heap = Edge.behind(SurveyEdgesTest::rowOfText);
+        heap.beginMarking();
+        Check.yes("the PICTURE's", heap.isReached(1));
+        heap.clear(0);
+        Check.no("what is TO KEEP is not reached now", heap.isReached(1));
+        Check.same("nor is there a way to it", heap.distance(1), -1);
+        heap.newRow(0, 0);
+        Check.yes("a NEW one", heap.isReached(2));
+        heap.clear(0);
+        Check.no("a NEW one that is not reached", heap.isReached(2));
+    }
+
     static void promise74NotByAPhantom() {
         RuntimeHeap heap = new RuntimeHeap();
         heap.newRow(0, 0);
