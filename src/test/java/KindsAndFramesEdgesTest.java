@@ -452,6 +452,7 @@ final class KindsAndFramesEdgesTest {
             heap.defineKind(0, 0, 0, true);
             heap.defineKind(0, 0, 0, false);
         };
+        Edge.answers("the child, said to be final", true, scene, heap -> heap.isFinal(1));
         Edge.answers("the parent", false, scene, heap -> heap.isFinal(0));
         Edge.answers("a child beside it", false, scene, heap -> heap.isFinal(2));
     }

@@ -432,6 +432,16 @@ final class MarkingEdgesTest {
         Check.no("the other one", heap.isPresent(3));
     }
 
+    static void promise22WhatOthersHoldByNowDoesNotComeInByAReadOne() {
+        RuntimeHeap heap = Edge.behind(MarkingEdgesTest::weak);
+        heap.newRow(3, 1);
+        heap.beginMarking();
+        heap.newText(4, 0);
+        heap.store(3, 0, 4);
+        heap.read(5, 0);
+        Check.same("WEAK, ROW, TEXT and the ROW of slot 3, not what that holds by now", visits(heap), 4);
+    }
+
     static void promise22AReadKeyAndATableOfTheRootsReachTheValueTogether() {
         RuntimeHeap heap = new RuntimeHeap();
         heap.newTable(0, 1);
@@ -588,6 +598,21 @@ final class MarkingEdgesTest {
         Check.same("lasts", heap.lasts(), 1);
         Check.yes("what it holds is KEPT", heap.isPresent(1));
         Check.yes("but not STRONG", heap.isCleared(2));
+    }
+
+    static void promise39AtTheEndASoftOfAFinalOneKeepsItsReferentButIsCleared() {
+        RuntimeHeap heap = new RuntimeHeap();
+        heap.defineKind(-1, 1, 0, true);
+        heap.newObject(0, 0);
+        heap.newText(1, 0);
+        heap.newSoft(1, 1, true);
+        heap.store(0, 0, 1);
+        clearAll(heap);
+        heap.beginMarking();
+        Check.same("none is TO KEEP", heap.step(1), 0);
+        Check.same("objects", heap.objects(), 3);
+        Check.same("the SOFT, its referent not being STRONG", heap.poll(0), 2);
+        Check.yes("cleared", heap.isCleared(0));
     }
 
     static void promise39ARemovedEntryOfThePictureDoesNotComeBack() {

@@ -254,15 +254,18 @@ final class NetsEdgesTest {
 
     static void promise31AnInternedTextIsNotCopied() {
         RuntimeHeap heap = new RuntimeHeap();
-        text(heap, 0, 9);
-        heap.intern(0, 0);
-        heap.toGlobal(7, 0);
+        text(heap, 0, 8);
+        text(heap, 1, 9);
+        heap.intern(1, 1);
+        heap.toGlobal(7, 1);
+        Check.same("the copy of another TEXT", heap.deepCopy(0, 0), 2);
+        heap.toGlobal(6, 0);
         Fill.words(heap, 320, 96);
         heap.fromGlobal(0, 7);
         heap.beginMarking();
         int made = heap.made();
-        Check.same("its number, also without any room", heap.deepCopy(1, 0), 0);
-        Check.same("to", heap.numberOf(1), 0);
+        Check.same("its number, also without any room", heap.deepCopy(1, 0), 1);
+        Check.same("to", heap.numberOf(1), 1);
         Check.same("made", heap.made(), made);
         Check.yes("nothing asked for room", heap.isMarking());
         Check.same("collections", heap.youngCollections() + heap.fullCollections(), 0);
@@ -626,14 +629,10 @@ final class NetsEdgesTest {
 
     static void promise34OneThatIsNotWellFormedAsksForNoRoom() {
         Edge.changesNothing("a kind that is not there", -2, heap -> {
-            heap.newRow(0, 40);
+            Fill.words(heap, 320, 96);
+            heap.fromGlobal(0, 0);
             heap.writeImage(0);
             heap.setImage(1, 0);
-            heap.clear(0);
-            heap.collectAll(false);
-            for (int i = 0; i < 3; i++) {
-                heap.newRow(i, 30);
-            }
             heap.beginMarking();
         }, heap -> heap.readImage(3));
     }
