@@ -289,6 +289,33 @@ final class AskedEdgesTest {
         Check.same("one without room", full.made(), made);
     }
 
+    static void promise63YoungAndOldOnesCountAlike() {
+        RuntimeHeap heap = new RuntimeHeap();
+        heap.newRow(0, 40);
+        Check.same("an OLD one", heap.made(), 1);
+        heap.newRow(1, 0);
+        Check.same("a YOUNG one as well", heap.made(), 2);
+        heap.collectAll(false);
+        Check.same("when it becomes OLD", heap.made(), 2);
+    }
+
+    private static void oneInTheQueueTwoInTheLastRow(RuntimeHeap heap) {
+        heap.defineKind(-1, 0, 0, true);
+        heap.newObject(0, 0);
+        heap.newWeak(1, 0, true);
+        heap.newObject(0, 0);
+        heap.clear(0);
+        heap.collectAll(false);
+    }
+
+    static void promise64WhatIsInTheLastRowDoesNotCount() {
+        Edge.changesNothing("queued", 1, AskedEdgesTest::oneInTheQueueTwoInTheLastRow, RuntimeHeap::queued);
+    }
+
+    static void promise65WhatIsInTheQueueDoesNotCount() {
+        Edge.changesNothing("lasts", 2, AskedEdgesTest::oneInTheQueueTwoInTheLastRow, RuntimeHeap::lasts);
+    }
+
     static void promise64EmptyAndByOneFewerBehindEachPoll() {
         Edge.changesNothing("empty", 0, SORTS, RuntimeHeap::queued);
         Edge.Act scene = Edge.both(SORTS, heap -> {

@@ -65,12 +65,12 @@ final class Check {
         refused(heap, IllegalStateException.class, what, call);
     }
 
-    /** Runs all static methods of a class whose names begin with "promise" or "run"; ends with 1 if one fails. */
+    /** Runs all static methods of a class whose names begin with "promise", "terms" or "run"; ends with 1 if one fails. */
     static void runAll(Class<?> tests) {
         int passed = 0;
         int failed = 0;
         for (Method test : tests.getDeclaredMethods()) {
-            boolean isTest = test.getName().startsWith("promise") || test.getName().startsWith("run");
+            boolean isTest = test.getName().matches("(promise|terms|run)[A-Z0-9].*");
             if (isTest && Modifier.isStatic(test.getModifiers()) && test.getParameterCount() == 0) {
                 if (passes(test)) {
                     passed++;

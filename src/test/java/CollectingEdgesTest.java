@@ -680,6 +680,35 @@ final class CollectingEdgesTest {
         Check.same("old words", heap.oldWords(), 319);
     }
 
+    static void promise37PressedDoesAllOtherStepsAlike() {
+        for (boolean isPressed : new boolean[] {false, true}) {
+            RuntimeHeap heap = withKinds();
+            heap.newObject(0, 0);
+            heap.newTable(1, 2);
+            heap.newText(2, 0);
+            heap.put(1, 2, 0);
+            heap.put(1, 1, 1);
+            heap.newWeak(3, 2, true);
+            heap.newPhantom(4, 2);
+            heap.newWeak(5, 0, true);
+            heap.clear(0);
+            heap.clear(2);
+            Check.same("removed", heap.collectAll(isPressed), 1);
+            Check.same("the LAST ROW", heap.takeLast(0), 0);
+            Check.yes("FINALIZED", heap.isFinalized(0));
+            Check.same("entries", heap.entriesOf(1), 1);
+            for (int number = 3; number <= 5; number++) {
+                Check.same("the QUEUE", heap.poll(6), number);
+                Check.yes("cleared", heap.isCleared(6));
+            }
+            Check.same("the QUEUE is empty", heap.poll(6), -1);
+            for (int slot = 0; slot < 6; slot++) {
+                Check.yes("OLD", slot == 2 || heap.isOld(slot));
+            }
+            Check.same("no words of YOUNG ones", heap.youngWords(), 0);
+        }
+    }
+
     static void promise37StepSevenKeepsTheAge() {
         RuntimeHeap heap = new RuntimeHeap();
         heap.newRow(0, 0);

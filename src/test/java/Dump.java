@@ -1,7 +1,8 @@
 /** All that can be learnt of a memory by its face, as a text. The memory is worn out by being asked. */
 final class Dump {
-    // What this global held is told by the digest; then it keeps what a slot held, while that slot is used.
+    // What these globals held is told by the digest; then they keep what a slot held, while that slot is used.
     private static final int SPARE_GLOBAL = 7;
+    private static final int OTHER_SPARE_GLOBAL = 6;
 
     private final RuntimeHeap heap;
     private final StringBuilder text = new StringBuilder();
@@ -111,7 +112,19 @@ final class Dump {
             if (heap.formOf(key) >= 0) {
                 tell("value", heap.get(slot, slot, key));
                 heap.fromGlobal(slot, SPARE_GLOBAL);
+                tellValuesOfHeldKeys(slot, key);
             }
+        }
+    }
+
+    private void tellValuesOfHeldKeys(int table, int holder) {
+        heap.toGlobal(OTHER_SPARE_GLOBAL, holder);
+        int fields = heap.formOf(holder) <= 1 ? heap.lengthOf(holder) : 0;
+        for (int place = 0; place < fields; place++) {
+            if (heap.load(holder, holder, place) >= 0) {
+                tell("value", heap.get(holder, table, holder));
+            }
+            heap.fromGlobal(holder, OTHER_SPARE_GLOBAL);
         }
     }
 

@@ -74,6 +74,64 @@ final class Fill {
         Check.same("objects", heap.objects(), 0);
     }
 
+    /**
+     * A memory in which there is something of everything: gaps in the numbers, each form, reached and unreached, YOUNG of
+     * several ages and OLD, two that wait in each row, one that is still to be FINALIZED, two frames, an IMAGE, and
+     * marking half done. The top frame: nothing, a WEAK, what was READ by it, a NEW ROW, an OLD PLAIN.
+     */
+    static void everything(RuntimeHeap heap) {
+        heap.defineKind(-1, 2, 1, false);
+        heap.defineKind(0, 1, 2, true);
+        heap.setTenure(3);
+        heap.newRow(0, 1);
+        twoThatWaitInEachRow(heap);
+        heap.newTable(2, 3);
+        heap.newText(5, 1);
+        heap.put(2, 5, 0);
+        heap.newRow(7, 2);
+        heap.collectYoung();
+        heap.newObject(5, 1);
+        heap.newRow(5, 0);
+        heap.put(2, 0, 7);
+        heap.newSoft(6, 7, false);
+        heap.newRow(5, 40);
+        heap.store(5, 39, 6);
+        heap.toGlobal(3, 7);
+        heap.toGlobal(0, 2);
+        heap.toGlobal(1, 0);
+        heap.writeImage(0);
+        heap.setImage(4, -9);
+        heap.push(5);
+        heap.fromGlobal(4, 1);
+        heap.newText(0, 2);
+        heap.newWeak(1, 0, true);
+        heap.clear(0);
+        heap.beginMarking();
+        heap.read(2, 1);
+        heap.newRow(3, 0);
+        heap.step(2);
+        Check.yes("marking is on", heap.isMarking());
+        Check.same("queued", heap.queued(), 2);
+        Check.same("lasts", heap.lasts(), 2);
+    }
+
+    /** A PLAIN in slot 0 that holds an INTERNED TEXT; two FINAL ones in the LAST ROW, and WEAKs of them in the QUEUE. */
+    private static void twoThatWaitInEachRow(RuntimeHeap heap) {
+        heap.newObject(0, 0);
+        heap.newText(1, 3);
+        heap.setByte(1, 2, 255);
+        heap.intern(1, 1);
+        heap.store(0, 1, 1);
+        heap.newPhantom(4, 1);
+        for (int i = 0; i < 2; i++) {
+            heap.newObject(2, 1);
+            heap.setNumber(2, 2, -7 - i);
+            heap.newWeak(3, 2, true);
+            heap.clear(2);
+            heap.collectAll(false);
+        }
+    }
+
     /** These numbers, and behind them so many zeros. */
     static int[] withZeros(int zeros, int... numbers) {
         int[] all = new int[numbers.length + zeros];

@@ -77,6 +77,50 @@ final class KindsAndFramesEdgesTest {
         other.setTenure(4);
         other.writeImage(0);
         Check.same("digest of the one", one.digest(), before);
+        Edge.answers("kinds of a third one", 0, Edge.NEW, RuntimeHeap::kinds);
+    }
+
+    static void promise1KindsAndObjectsOfOneMemoryAreNotThoseOfAnother() {
+        RuntimeHeap one = new RuntimeHeap();
+        RuntimeHeap other = new RuntimeHeap();
+        one.defineKind(-1, 1, 2, true);
+        other.defineKind(-1, 3, 4, false);
+        one.newObject(0, 0);
+        one.setNumber(0, 1, 7);
+        other.newObject(0, 0);
+        other.setNumber(0, 1, 8);
+        Check.same("references of the one", one.referencesOf(0), 1);
+        Check.same("references of the other", other.referencesOf(0), 3);
+        Check.same("numbers of the one", one.numbersOf(0), 2);
+        Check.yes("the one is final", one.isFinal(0));
+        Check.no("the other is not", other.isFinal(0));
+        Check.same("number of the one", one.getNumber(0, 1), 7);
+        Check.same("number of the other", other.getNumber(0, 1), 8);
+    }
+
+    static void promise1RootsOfOneMemoryAreNotThoseOfAnother() {
+        RuntimeHeap one = new RuntimeHeap();
+        RuntimeHeap other = Edge.behind(Fill::everything);
+        Check.same("queued", one.queued(), 0);
+        Check.same("lasts", one.lasts(), 0);
+        Check.same("poll", one.poll(0), -1);
+        Check.same("takeLast", one.takeLast(0), -1);
+        Check.same("frames", one.frames(), 1);
+        Check.no("isMarking", one.isMarking());
+        for (int i = 0; i < 8; i++) {
+            Check.same("slot", one.numberOf(i), -1);
+            Check.same("global", one.globalNumber(i), -1);
+        }
+        Check.same("the other one's", other.queued() + other.lasts(), 4);
+    }
+
+    static void promise1IsUsedForFiveHundredAndTwelveCalls() {
+        RuntimeHeap heap = new RuntimeHeap();
+        for (int call = 0; call < 510; call++) {
+            Check.same("call " + call, heap.newRow(call % 8, 10), call);
+        }
+        Check.same("call 511", heap.made(), 510);
+        Check.same("call 512", heap.flaws(), 0);
     }
 
     // ---- promise 2
@@ -87,6 +131,17 @@ final class KindsAndFramesEdgesTest {
 
     static void promise2ParentOfTheFirstKindIsMinusOneOnly() {
         Edge.range(INDEX, "parent", -1, -1, Edge.NEW, (heap, parent) -> heap.defineKind(parent, 0, 0, false));
+    }
+
+    static void promise2IsFinalIsAsItWasSaid() {
+        for (boolean isFinal : new boolean[] {false, true}) {
+            Edge.answers("without a parent", isFinal, heap -> heap.defineKind(-1, 1, 1, isFinal),
+                heap -> heap.isFinal(0));
+            Edge.answers("with a parent that is not", isFinal, heap -> {
+                heap.defineKind(-1, 1, 1, false);
+                heap.defineKind(0, 1, 1, isFinal);
+            }, heap -> heap.isFinal(1));
+        }
     }
 
     static void promise2ReferencesAreZeroToFour() {
@@ -507,5 +562,38 @@ final class KindsAndFramesEdgesTest {
         };
         Edge.changesNothing("nothing", -1, scene, heap -> heap.globalNumber(6));
         Edge.changesNothing("number 0", 0, scene, heap -> heap.globalNumber(7));
+    }
+
+    static void promise47EachKeepsItsNumberWhenOthersGo() {
+        RuntimeHeap heap = new RuntimeHeap();
+        for (int number = 0; number < 4; number++) {
+            heap.newRow(number / 2, 0);
+        }
+        heap.collectYoung();
+        Check.same("where others were", heap.newRow(2, 0), 4);
+        for (int i = 0; i < 3; i++) {
+            heap.collectYoung();
+            Check.same("slot 0", heap.numberOf(0), 1);
+            Check.same("slot 1", heap.numberOf(1), 3);
+            Check.same("slot 2", heap.numberOf(2), 4);
+        }
+        heap.beginMarking();
+        heap.step(3);
+        Check.same("slot 1, OLD and behind marking", heap.numberOf(1), 3);
+        Check.same("slot 2", heap.numberOf(2), 4);
+        Check.same("the next one's", heap.newRow(1, 0), 5);
+    }
+
+    static void promise48EachKeepsItsNumberWhenOthersGo() {
+        RuntimeHeap heap = new RuntimeHeap();
+        heap.newRow(0, 0);
+        heap.newRow(0, 0);
+        heap.collectYoung();
+        heap.newRow(0, 0);
+        heap.toGlobal(5, 0);
+        heap.clear(0);
+        Check.same("in a place where 0 was", heap.globalNumber(5), 2);
+        heap.collectAll(true);
+        Check.same("when 1 is gone as well", heap.globalNumber(5), 2);
     }
 }

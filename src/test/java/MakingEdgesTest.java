@@ -320,6 +320,43 @@ final class MakingEdgesTest {
         }
     }
 
+    /** One object in each of the slots 0 to 2. */
+    private static void threeRows(RuntimeHeap heap) {
+        for (int slot = 0; slot < 3; slot++) {
+            putRow(heap, slot);
+        }
+    }
+
+    static void promise12TheReferentIsWhatThatSlotHolds() {
+        for (int of = 0; of < 3; of++) {
+            RuntimeHeap heap = Edge.behind(MakingEdgesTest::threeRows);
+            heap.newWeak(7, of, true);
+            for (int slot = 0; slot < 3; slot++) {
+                Check.same("slot " + slot, heap.refersTo(7, slot) ? 1 : 0, slot == of ? 1 : 0);
+            }
+        }
+    }
+
+    static void promise13TheReferentIsWhatThatSlotHolds() {
+        for (int of = 0; of < 3; of++) {
+            RuntimeHeap heap = Edge.behind(MakingEdgesTest::threeRows);
+            heap.newSoft(7, of, true);
+            for (int slot = 0; slot < 3; slot++) {
+                Check.same("slot " + slot, heap.refersTo(7, slot) ? 1 : 0, slot == of ? 1 : 0);
+            }
+        }
+    }
+
+    static void promise14TheReferentIsWhatThatSlotHolds() {
+        for (int of = 0; of < 3; of++) {
+            RuntimeHeap heap = Edge.behind(MakingEdgesTest::threeRows);
+            heap.newPhantom(7, of);
+            for (int slot = 0; slot < 3; slot++) {
+                Check.same("slot " + slot, heap.refersTo(7, slot) ? 1 : 0, slot == of ? 1 : 0);
+            }
+        }
+    }
+
     static void promise13ToIsASlot() {
         Edge.slot("newSoft: to", Edge.NEW, (heap, to) -> putRow(heap, 1), (heap, to) -> heap.newSoft(to, 1, true));
     }

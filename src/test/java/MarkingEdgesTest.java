@@ -442,6 +442,20 @@ final class MarkingEdgesTest {
         Check.same("WEAK, ROW, TEXT and the ROW of slot 3, not what that holds by now", visits(heap), 4);
     }
 
+    static void promise22WhatAPlainOrATableHoldsByNowDoesNotComeInByAReadOne() {
+        RuntimeHeap heap = Edge.behind(MarkingEdgesTest::weak);
+        heap.newObject(3, heap.defineKind(-1, 1, 0, false));
+        heap.newTable(4, 2);
+        heap.put(4, 3, 7);
+        heap.beginMarking();
+        heap.newText(5, 0);
+        heap.store(3, 0, 5);
+        heap.put(4, 3, 5);
+        heap.read(6, 0);
+        Check.same("WEAK, ROW, TEXT, PLAIN and TABLE, not the NEW one", visits(heap), 5);
+        Check.same("objects", heap.objects(), 6);
+    }
+
     static void promise22AReadKeyAndATableOfTheRootsReachTheValueTogether() {
         RuntimeHeap heap = new RuntimeHeap();
         heap.newTable(0, 1);
@@ -545,6 +559,41 @@ final class MarkingEdgesTest {
         heap.beginMarking();
         Check.same("visits", visits(heap), 2);
         Check.no("the SOFT", heap.isCleared(0));
+    }
+
+    static void promise39NewOnesOfEachFormAreKeptNotVisited() {
+        RuntimeHeap heap = new RuntimeHeap();
+        heap.defineKind(-1, 0, 0, false);
+        heap.beginMarking();
+        heap.newObject(0, 0);
+        heap.newRow(1, 0);
+        heap.newText(2, 0);
+        heap.newWeak(3, 0, true);
+        heap.newSoft(4, 0, true);
+        heap.newPhantom(5, 0);
+        heap.newTable(6, 1);
+        clearAll(heap);
+        Check.same("visits", heap.step(50), 0);
+        for (int number = 0; number <= 6; number++) {
+            Check.yes("number " + number, heap.isPresent(number));
+        }
+        Check.same("none is STRONG by the next one", heap.collectAll(false), 7);
+    }
+
+    static void promise39AtTheEndEntriesVanishWithTheirKeys() {
+        RuntimeHeap heap = new RuntimeHeap();
+        heap.newTable(0, 2);
+        heap.newRow(1, 0);
+        heap.newText(2, 0);
+        heap.put(0, 1, 2);
+        heap.put(0, 2, 1);
+        heap.put(0, 0, 0);
+        heap.clear(1);
+        heap.clear(2);
+        heap.beginMarking();
+        Check.same("only the TABLE", visits(heap), 1);
+        Check.same("entries", heap.entriesOf(0), 0);
+        Check.same("objects", heap.objects(), 1);
     }
 
     static void promise39TheCollectionAtTheEndMakesOldWhatFits() {

@@ -101,6 +101,17 @@ final class NetsEdgesTest {
         Check.same("interned", heap.interned(), 3);
     }
 
+    static void promise30OneByteFewerIsAnotherText() {
+        RuntimeHeap heap = new RuntimeHeap();
+        text(heap, 2, 0, 0);
+        text(heap, 1, 0);
+        text(heap, 0);
+        for (int slot = 2; slot >= 0; slot--) {
+            Check.same("only zeros", heap.intern(3, slot), 2 - slot);
+        }
+        Check.same("interned", heap.interned(), 3);
+    }
+
     static void promise30TheLastByteCounts() {
         RuntimeHeap heap = new RuntimeHeap();
         heap.newText(0, 120);
@@ -393,6 +404,25 @@ final class NetsEdgesTest {
         heap.clear(1);
         heap.collectAll(false);
         Check.same("it goes to the LAST ROW in its turn", heap.takeLast(1), 1);
+    }
+
+    static void promise31CopiesOfTextsAreNotInterned() {
+        Edge.Act scene = heap -> {
+            heap.newRow(0, 1);
+            heap.newText(1, 1);
+            heap.store(0, 0, 1);
+        };
+        Edge.answers("of a TEXT", false, Edge.both(scene, heap -> heap.deepCopy(2, 1)), heap -> heap.isInterned(2));
+        Edge.answers("of one that a ROW holds", false, Edge.both(scene, heap -> {
+            heap.deepCopy(2, 0);
+            heap.load(2, 2, 0);
+        }), heap -> heap.isInterned(2));
+        Edge.answers("none", 0, Edge.both(scene, heap -> heap.deepCopy(2, 0)), RuntimeHeap::interned);
+        Edge.answers("of one like an INTERNED one", false, Edge.both(scene, heap -> {
+            heap.newText(3, 1);
+            heap.intern(3, 3);
+            heap.deepCopy(2, 1);
+        }), heap -> heap.isInterned(2));
     }
 
     static void promise31AllCopiesOfALargeNetAreOldOfAgeZero() {
@@ -712,6 +742,17 @@ final class NetsEdgesTest {
             malformed("-1 bytes", Edge.NEW, 1, form, -1);
             malformed("the least", Edge.NEW, 1, form, Integer.MIN_VALUE);
             malformed("the greatest", Edge.NEW, 1, form, Integer.MAX_VALUE);
+        }
+    }
+
+    static void promise34ANegativeLengthLeadsToNoOtherObject() {
+        for (int form = 1; form <= 3; form++) {
+            for (int length : new int[] {-1, -2, -3, -4, -10, -400, -401, Integer.MIN_VALUE, Integer.MIN_VALUE + 2}) {
+                malformed("the first of two", Edge.NEW, 2, form, length, form, 0);
+                malformed("the second of two", Edge.NEW, 2, form, 0, form, length);
+                malformed("the second of three", Edge.NEW, 3, form, 0, form, length, form, 0);
+                malformed("the last of many", Edge.NEW, 4, 1, 0, 1, 0, 2, 0, form, length);
+            }
         }
     }
 

@@ -187,6 +187,39 @@ final class ReferencesEdgesTest {
 
     // ---- promise 24
 
+    static void promise24DoesNotCountAsReading() {
+        RuntimeHeap heap = new RuntimeHeap();
+        putWeak(heap, 0);
+        heap.beginMarking();
+        Check.yes("forget", heap.forget(0));
+        Check.same("only the WEAK is TO KEEP", heap.step(50), 1);
+        Check.no("its referent", heap.isPresent(0));
+    }
+
+    static void promise24WhatIsClearedStaysSoThoughTheReferentIsHeldAgain() {
+        RuntimeHeap heap = new RuntimeHeap();
+        heap.defineKind(-1, 0, 0, true);
+        heap.newObject(0, 0);
+        heap.newWeak(1, 0, true);
+        heap.newSoft(2, 0, true);
+        heap.newPhantom(3, 0);
+        heap.forget(2);
+        heap.clear(0);
+        heap.collectAll(false);
+        Check.same("handed out once more", heap.takeLast(0), 0);
+        heap.forget(3);
+        for (int i = 0; i < 3; i++) {
+            for (int slot = 1; slot <= 3; slot++) {
+                Check.yes("cleared " + slot, heap.isCleared(slot));
+                Check.no("refers " + slot, heap.refersTo(slot, 0));
+            }
+            Check.same("read of the WEAK", heap.read(4, 1), -1);
+            Check.same("read of the SOFT", heap.read(4, 2), -1);
+            heap.collectAll(i == 1);
+        }
+        Check.same("only the WEAK was cleared by a collection", heap.queued(), 1);
+    }
+
     static void promise24ReferenceIsASlot() {
         Edge.slot("forget", Edge.NEW, ReferencesEdgesTest::putWeak, RuntimeHeap::forget);
     }

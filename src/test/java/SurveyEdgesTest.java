@@ -109,6 +109,20 @@ final class SurveyEdgesTest {
         Check.no("a NEW one that is not reached", heap.isReached(2));
     }
 
+    static void promise74ByItsNumberAlsoWithGaps() {
+        RuntimeHeap heap = new RuntimeHeap();
+        for (int i = 0; i < 4; i++) {
+            heap.newRow(0, 0);
+        }
+        heap.collectAll(false);
+        heap.newRow(1, 0);
+        heap.newRow(1, 0);
+        boolean[] due = {false, false, false, true, false, true, false};
+        for (int number = 0; number < due.length; number++) {
+            Check.same("number " + number, heap.isReached(number) ? 1 : 0, due[number] ? 1 : 0);
+        }
+    }
+
     static void promise74NotByAPhantom() {
         RuntimeHeap heap = new RuntimeHeap();
         heap.newRow(0, 0);
@@ -263,6 +277,21 @@ final class SurveyEdgesTest {
             heap.takeLast(0);
             heap.clear(0);
         }), heap -> heap.wouldRemove(false));
+    }
+
+    static void promise76WhatFinalOnesReachBySoftIsKeptIfItIsNotPressed() {
+        Edge.Act scene = heap -> {
+            heap.defineKind(-1, 1, 0, true);
+            heap.newObject(0, 0);
+            heap.newText(1, 0);
+            heap.newSoft(1, 1, false);
+            heap.store(0, 0, 1);
+            clearAll(heap);
+        };
+        Edge.changesNothing("not PRESSED", 0, scene, heap -> heap.wouldRemove(false));
+        Edge.changesNothing("PRESSED", 1, scene, heap -> heap.wouldRemove(true));
+        Edge.answers("not PRESSED, done", 0, scene, heap -> heap.collectAll(false));
+        Edge.answers("PRESSED, done", 1, scene, heap -> heap.collectAll(true));
     }
 
     static void promise76WhileMarkingIsOnOneLikeTheOthers() {
@@ -920,6 +949,12 @@ final class SurveyEdgesTest {
         });
     }
 
+    static void promise84SomethingOfEverything() {
+        isDigested("by the other answers", Fill::everything);
+        isDigested("behind marking", Edge.both(Fill::everything, heap -> heap.step(50)));
+        isDigested("one frame", Edge.both(Fill::everything, heap -> heap.pop(3)));
+    }
+
     static void promise84AnImageOfFourHundredNumbers() {
         isDigested("with negative and large ones", heap -> {
             heap.newRow(0, 31);
@@ -940,5 +975,85 @@ final class SurveyEdgesTest {
 
     static void promise84AFullMemory() {
         isDigested("416 words", heap -> Fill.words(heap, 320, 96));
+    }
+
+    // ---- nothing is changed by any of these
+
+    private static String restOfMarking(RuntimeHeap heap) {
+        StringBuilder rest = new StringBuilder();
+        while (heap.isMarking()) {
+            rest.append(heap.step(1)).append(' ').append(heap.objects()).append(' ');
+        }
+        return rest.append(heap.made()).append(' ').append(heap.queued()).append(' ').append(heap.lasts()).toString();
+    }
+
+    private static void changesNothing(String what, Edge.Ask ask) {
+        Edge.Act scene = Fill::everything;
+        Edge.changesNothing(what, ask.of(Edge.behind(scene)), scene, ask);
+        // A Dump asks as well before it lets marking go on, so that is looked at by itself.
+        Edge.answers(what + ", then marking", restOfMarking(Edge.behind(scene)),
+            Edge.both(scene, heap -> ask.of(heap)), SurveyEdgesTest::restOfMarking);
+    }
+
+    static void promise73ChangesNothing() {
+        changesNothing("isPresent", heap -> heap.isPresent(3));
+        changesNothing("isPresent of none", heap -> heap.isPresent(0));
+    }
+
+    static void promise74ChangesNothing() {
+        changesNothing("isReached", heap -> heap.isReached(1));
+        changesNothing("isReached of none", heap -> heap.isReached(-1));
+    }
+
+    static void promise75ChangesNothing() {
+        changesNothing("distance", heap -> heap.distance(2));
+    }
+
+    static void promise76ChangesNothing() {
+        changesNothing("wouldRemove", heap -> heap.wouldRemove(false));
+        changesNothing("wouldRemove, PRESSED", heap -> heap.wouldRemove(true));
+    }
+
+    static void promise77ChangesNothing() {
+        changesNothing("retained", heap -> heap.retained(2));
+        changesNothing("retained, of a NEW one", heap -> heap.retained(3));
+        changesNothing("retained, of an OLD one", heap -> heap.retained(4));
+    }
+
+    static void promise78ChangesNothing() {
+        changesNothing("heaviest", RuntimeHeap::heaviest);
+    }
+
+    static void promise79ChangesNothing() {
+        changesNothing("onCircle", heap -> heap.onCircle(2));
+        changesNothing("onCircle, of a NEW one", heap -> heap.onCircle(3));
+        changesNothing("onCircle, of an OLD one", heap -> heap.onCircle(4));
+    }
+
+    static void promise80ChangesNothing() {
+        changesNothing("referrers", heap -> heap.referrers(2));
+        changesNothing("referrers, of a NEW one", heap -> heap.referrers(3));
+        changesNothing("referrers, of an OLD one", heap -> heap.referrers(4));
+    }
+
+    static void promise81ChangesNothing() {
+        changesNothing("sameShape", heap -> heap.sameShape(2, 3));
+        changesNothing("sameShape of a NEW one", heap -> heap.sameShape(3, 3));
+        changesNothing("sameShape of an OLD one", heap -> heap.sameShape(4, 4));
+    }
+
+    static void promise82ChangesNothing() {
+        changesNothing("flaws", RuntimeHeap::flaws);
+    }
+
+    static void promise83ChangesNothing() {
+        changesNothing("meanWords", RuntimeHeap::meanWords);
+    }
+
+    static void promise84ChangesNothing() {
+        changesNothing("digest", RuntimeHeap::digest);
+        // A Dump begins with a digest itself.
+        Edge.answers("the IMAGE behind it", Edge.behind(Fill::everything).imageLength(),
+            Edge.both(Fill::everything, RuntimeHeap::digest), RuntimeHeap::imageLength);
     }
 }
