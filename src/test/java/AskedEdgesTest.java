@@ -158,7 +158,8 @@ final class AskedEdgesTest {
     }
 
     static void promise54OldByWordsAndNothing() {
-        asks("isOld", AskedEdgesTest::extremes, RuntimeHeap::isOld, false, false, false, true, false, false, false, true);
+        asks("isOld", AskedEdgesTest::extremes, RuntimeHeap::isOld,
+            false, false, false, true, false, false, false, true);
         asks("isOld of nothing", Edge.NEW, RuntimeHeap::isOld, false);
     }
 

@@ -65,7 +65,7 @@ final class Check {
         refused(heap, IllegalStateException.class, what, call);
     }
 
-    /** Runs all static methods of a class whose names begin with "promise", "terms" or "run"; ends with 1 if one fails. */
+    /** Runs all static methods whose names begin with "promise", "terms" or "run"; ends with 1 if one fails. */
     static void runAll(Class<?> tests) {
         int passed = 0;
         int failed = 0;

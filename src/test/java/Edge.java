@@ -105,7 +105,7 @@ final class Edge {
     }
 
     /**
-     * An argument has to be a slot of the top frame: its first and last one, not one more, nor a slot of the frame below.
+     * An argument has to be a slot of the top frame: its first and last one, not one more, nor one of the frame below.
      * The fill puts into a slot what the call wants to find there; slot 1 is free for what else a call needs.
      */
     static void slot(String what, Act scene, With fill, With call) {

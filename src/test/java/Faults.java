@@ -44,7 +44,11 @@ final class Faults {
         for (Sentence sentence : Sentence.all()) {
             for (String fault : sentence.faults) {
                 Path folder = Files.createDirectories(faults.broken.resolve("" + answers.size()));
-                answers.add(workers.submit(() -> faults.tell(sentence, fault, folder)));
+                answers.add(workers.submit(() -> {
+                    String answer = faults.tell(sentence, fault, folder);
+                    clear(folder);
+                    return answer;
+                }));
             }
         }
         int missed = 0;
@@ -56,6 +60,13 @@ final class Faults {
         }
         OUT.println(answers.size() + " faults, " + missed + " not noticed");
         System.exit(missed == 0 ? 0 : 1);
+    }
+
+    private static void clear(Path folder) throws IOException {
+        for (File file : folder.toFile().listFiles()) {
+            Files.delete(file.toPath());
+        }
+        Files.delete(folder);
     }
 
     /** Nothing, if a test of the sentence notices the fault. */
@@ -71,7 +82,7 @@ final class Faults {
         return failing.isEmpty() ? "NOT NOTICED: " + sentence.words() + "\n    " + fault : "";
     }
 
-    /** The program with a fault: "old >>> new", with "Class| ", "method| " or "Class.method| " ahead for where it is. */
+    /** The program with a fault: "old >>> new", with "Class| ", "method| " or "Class.method| " ahead for the place. */
     private String withFault(String fault) {
         int bar = fault.indexOf("| ");
         boolean isAnywhere = bar < 0 || bar > fault.indexOf(" ");
@@ -167,9 +178,10 @@ final class Faults {
 
         private void runAll(Class<?> tests, Method passes) throws ReflectiveOperationException {
             for (Method test : tests.getDeclaredMethods()) {
-                boolean isTest = test.getName().matches("(promise|terms|run)[A-Z0-9].*") && test.getParameterCount() == 0;
+                boolean isTest = test.getName().matches("(promise|terms|run)[A-Z0-9].*");
                 boolean isAsked = isAllAsked || wanted.contains(test.getName());
-                if (isTest && isAsked && !isOver && !(Boolean) passes.invoke(null, test)) {
+                if (isTest && test.getParameterCount() == 0 && isAsked && !isOver
+                        && !(Boolean) passes.invoke(null, test)) {
                     failing.add(test.getName());
                 }
             }

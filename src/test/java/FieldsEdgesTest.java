@@ -18,7 +18,7 @@ final class FieldsEdgesTest {
         Check.runAll(FieldsEdgesTest.class);
     }
 
-    /** A PLAIN with 2 reference and 3 number fields, a ROW of 4 places, a TEXT of 5 bytes, and one of each other form. */
+    /** A PLAIN of 2 reference and 3 number fields, a ROW of 4 places, a TEXT of 5 bytes, one of each other form. */
     private static void sorts(RuntimeHeap heap) {
         heap.defineKind(-1, 1, 2, false);
         heap.defineKind(0, 1, 1, false);

@@ -75,8 +75,8 @@ final class Fill {
     }
 
     /**
-     * A memory in which there is something of everything: gaps in the numbers, each form, reached and unreached, YOUNG of
-     * several ages and OLD, two that wait in each row, one that is still to be FINALIZED, two frames, an IMAGE, and
+     * A memory in which there is something of everything: gaps in the numbers, each form, reached and unreached, YOUNG
+     * of several ages and OLD, two that wait in each row, one that is still to be FINALIZED, two frames, an IMAGE, and
      * marking half done. The top frame: nothing, a WEAK, what was READ by it, a NEW ROW, an OLD PLAIN.
      */
     static void everything(RuntimeHeap heap) {
@@ -115,7 +115,7 @@ final class Fill {
         Check.same("lasts", heap.lasts(), 2);
     }
 
-    /** A PLAIN in slot 0 that holds an INTERNED TEXT; two FINAL ones in the LAST ROW, and WEAKs of them in the QUEUE. */
+    /** A PLAIN in slot 0 that holds an INTERNED TEXT; two in the LAST ROW, and WEAKs of them in the QUEUE. */
     private static void twoThatWaitInEachRow(RuntimeHeap heap) {
         heap.newObject(0, 0);
         heap.newText(1, 3);

@@ -126,7 +126,8 @@ final class KindsAndFramesEdgesTest {
     // ---- promise 2
 
     static void promise2ParentIsMinusOneOrAKind() {
-        Edge.range(INDEX, "parent", -1, 2, heap -> define(heap, 3), (heap, parent) -> heap.defineKind(parent, 0, 0, false));
+        Edge.range(INDEX, "parent", -1, 2, heap -> define(heap, 3),
+            (heap, parent) -> heap.defineKind(parent, 0, 0, false));
     }
 
     static void promise2ParentOfTheFirstKindIsMinusOneOnly() {

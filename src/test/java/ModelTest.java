@@ -6,6 +6,7 @@ import java.util.List;
 /** Long runs of calls, the same ones on the program and on the Model: each answer and each digest has to agree. */
 final class ModelTest {
     private static final int CALLS = 512;
+    private static final int SAME_SHAPE = 79;
 
     // A method, how often it is called, and of what its arguments are taken (see argument).
     private static final String[][] METHODS = {
@@ -38,8 +39,16 @@ final class ModelTest {
     private static final int[] LEAST_FORM = {0, 0, 0, 0, 2, 3, 6};
     private static final int[] MOST_FORM = {6, 0, 1, 2, 2, 5, 6};
 
+    private static final String IMAGES = " clear newObject newRow newText load store setNumber setByte intern deepCopy "
+            + "writeImage setImage readImage sameShape defineKind ";
     private static final String MARKING = " clear newObject newRow newText newWeak newSoft newTable load store "
             + "setByte read put get remove intern deepCopy writeImage readImage beginMarking step ";
+
+    // The least and the most of some arguments, and one beyond.
+    private static final String EDGES = "rwltcbvax";
+    private static final int[][] AT_EDGES = {{-1, 0, 4, 5}, {0, 1, 8, 9}, {0, 30, 31, 40, 41}, {0, 119, 120, 121},
+        {0, 1, 16, 17}, {-1, 0, 127, 128, 255, 256}, {-1, 12, 40, 41, 120, 121, 255, 256, Integer.MIN_VALUE},
+        {0, 1, 4, 5}, {0, 1, 50, 51}};
 
     private final Method[] onProgram = new Method[METHODS.length];
     private final Method[] onModel = new Method[METHODS.length];
@@ -99,12 +108,24 @@ final class ModelTest {
         }
         longest = new int[] {1, 3, 12, 41}[next(4)];
         if (run % 3 == 0) {
-            dwellOnMarking();
+            // Little room is asked for and nothing collected, so that marking stays on while much is read and dropped.
+            dwellOn(MARKING, 3);
+        } else if (run % 8 == 1) {
+            dwellOn(IMAGES, new int[] {3, 41}[next(2)]);
         }
         List<String> calls = new ArrayList<>();
+        int copied = -1;
         for (int call = 0; call < CALLS; call++) {
             int method = call < 6 ? next(2) * 7 : choose();
             Object[] arguments = arguments(METHODS[method][2]);
+            if (copied >= 0) {
+                // Two nets that are alike would seldom be asked for by chance.
+                method = SAME_SHAPE;
+                arguments = new Object[] {copied, lastSlot};
+                copied = -1;
+            } else if (METHODS[method][0].equals("deepCopy")) {
+                copied = (Integer) arguments[0];
+            }
             String got = answer(onProgram[method], heap, arguments);
             String due = answer(onModel[method], model, arguments);
             calls.add(METHODS[method][0] + java.util.Arrays.toString(arguments) + " " + got);
@@ -118,12 +139,11 @@ final class ModelTest {
         return true;
     }
 
-    /** Little room is asked for and nothing collected, so that marking stays on while much is read and dropped. */
-    private void dwellOnMarking() {
+    private void dwellOn(String methods, int most) {
         for (int i = 0; i < METHODS.length; i++) {
-            weights[i] = MARKING.contains(" " + METHODS[i][0] + " ") ? Integer.parseInt(METHODS[i][1]) : 0;
+            weights[i] = methods.contains(" " + METHODS[i][0] + " ") ? Integer.parseInt(METHODS[i][1]) : 0;
         }
-        longest = 3;
+        longest = most;
     }
 
     private static String answer(Method method, Object target, Object[] arguments) {
@@ -161,7 +181,12 @@ final class ModelTest {
     private int argument(char of) {
         boolean isWild = next(60) == 0;
         if (isWild) {
-            return new int[] {-1, -2, 8, 12, 41, 121, 256, Integer.MAX_VALUE, Integer.MIN_VALUE}[next(9)];
+            return new int[] {-1, -2, 8, 12, 41, 121, 256, Integer.MAX_VALUE, Integer.MIN_VALUE, model.slots(),
+                model.kinds(), model.imageLength(), model.made()}[next(13)];
+        }
+        if (next(15) == 0 && EDGES.indexOf(of) >= 0) {
+            int[] edges = AT_EDGES[EDGES.indexOf(of)];
+            return edges[next(edges.length)];
         }
         if (FORMS.indexOf(of) >= 0) {
             return slotWith(FORMS.indexOf(of));

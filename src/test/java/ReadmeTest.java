@@ -45,10 +45,14 @@ final class ReadmeTest {
     }
 
     static void runEachCallIsTold() throws IOException {
-        Set<String> told = names(rows("| what for | calls |"));
+        Set<String> told = new TreeSet<>();
+        Matcher call = Pattern.compile("`(\\w+)\\((.*?)\\)`").matcher(String.join("\n", rows("| what for | calls |")));
+        while (call.find()) {
+            told.add(call.group(1) + " " + (call.group(2).isEmpty() ? 0 : call.group(2).split(", ").length));
+        }
         Set<String> due = new TreeSet<>();
         for (Method method : calls()) {
-            due.add(method.getName());
+            due.add(method.getName() + " " + method.getParameterCount());
         }
         if (!told.equals(due)) {
             Check.tell("README.md tells of " + told + ", due is " + due);

@@ -73,7 +73,7 @@ final class ReferencesEdgesTest {
         heap.collectAll(false);
     }
 
-    /** A full TABLE of that capacity in slot 0; its keys, each its own value, are held by the ROW in slot 1 in their order. */
+    /** A full TABLE of that capacity in slot 0; its keys, each its own value, are in order in the ROW in slot 1. */
     private static void fullTable(RuntimeHeap heap, int capacity) {
         heap.newTable(0, capacity);
         heap.newRow(1, 16);
@@ -140,7 +140,8 @@ final class ReferencesEdgesTest {
     // ---- promise 23
 
     static void promise23ReferenceIsASlot() {
-        Edge.slot("refersTo: reference", Edge.NEW, ReferencesEdgesTest::putWeak, (heap, slot) -> heap.refersTo(slot, 1));
+        Edge.slot("refersTo: reference", Edge.NEW, ReferencesEdgesTest::putWeak,
+            (heap, slot) -> heap.refersTo(slot, 1));
     }
 
     static void promise23SlotIsASlot() {

@@ -4,7 +4,7 @@ import java.nio.file.Path;
 import java.util.ArrayList;
 import java.util.List;
 
-/** A sentence of the document, the tests that would fail if it were broken, and faults by which the program breaks it. */
+/** A sentence of the document, the tests that fail if it is broken, and faults by which the program breaks it. */
 final class Sentence {
     private static final Path ALL = Path.of("src/test/sentences.txt");
 

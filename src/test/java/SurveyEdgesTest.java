@@ -258,8 +258,9 @@ final class SurveyEdgesTest {
     }
 
     static void promise76PressedDoesNotReachBySoft() {
-        Edge.changesNothing("not PRESSED: by the WEAK", 1, SurveyEdgesTest::byOtherWays, heap -> heap.wouldRemove(false));
-        Edge.changesNothing("PRESSED: by the SOFT too", 2, SurveyEdgesTest::byOtherWays, heap -> heap.wouldRemove(true));
+        Edge.Act scene = SurveyEdgesTest::byOtherWays;
+        Edge.changesNothing("not PRESSED: by the WEAK", 1, scene, heap -> heap.wouldRemove(false));
+        Edge.changesNothing("PRESSED: by the SOFT too", 2, scene, heap -> heap.wouldRemove(true));
     }
 
     static void promise76FinalOnesAreKeptTheFirstTime() {
@@ -400,7 +401,8 @@ final class SurveyEdgesTest {
 
     static void promise78NoneIsReached() {
         Edge.changesNothing("an empty memory", -1, Edge.NEW, RuntimeHeap::heaviest);
-        Edge.changesNothing("only what is not reached", -1, Edge.both(SurveyEdgesTest::rowOfText, heap -> heap.clear(0)),
+        Edge.changesNothing("only what is not reached", -1,
+            Edge.both(SurveyEdgesTest::rowOfText, heap -> heap.clear(0)),
             RuntimeHeap::heaviest);
     }
 

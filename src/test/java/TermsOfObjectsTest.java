@@ -540,7 +540,7 @@ final class TermsOfObjectsTest {
         Check.same("slot 0", heap.numberOf(0), 0);
     }
 
-    /** ROWs that the first and last slot of three frames and the first and last global hold, and one that none holds. */
+    /** ROWs that the first and last slot of three frames and the first and last global hold, and one that none does. */
     private static void heldByRoots(RuntimeHeap heap) {
         for (int global : new int[] {0, 7}) {
             heap.newRow(0, 0);
